@@ -152,6 +152,7 @@ public final class DatagramsTest {
         Due.is("closest three: first", x.datagram(0, 6), 11);
         Due.is("closest three: second", x.datagram(0, 7), 10);
         Due.is("closest three: third", x.datagram(0, 8), 12);
+        Due.is("closest three: no fourth", x.datagram(0, 9), -1);
     }
 
     private static void deliverAnyPlace() {

@@ -12,6 +12,7 @@ public final class LookupsTest {
         beginWithoutContacts();
         beginAsksTwo();
         beginAsksInTheWordOfItsKind();
+        beginTakesThreeAtMost();
         beginForgetsTheOneBefore();
         beginTouches();
         farCandidatesStayNew();
@@ -25,6 +26,7 @@ public final class LookupsTest {
         tickFailsTheSilent();
         tickGoesByNumber();
         tickMissesOnlyContacts();
+        tickLeavesOutWhoLeft();
         candidateNeedsAPlace();
         foundKeepsOrder();
         Due.end();
@@ -102,6 +104,20 @@ public final class LookupsTest {
             Steps.deliverAll(x);
             Due.is("kind " + kind + ": lookup(0)", x.lookup(0), 2);
         }
+    }
+
+    private static void beginTakesThreeAtMost() {
+        XorOverlay x = new XorOverlay();
+        x.join(0, -1);
+        int[] guests = {1, 2, 200, 4, 210};
+        for (int guest : guests) {
+            Steps.see(x, 0, guest);
+        }
+        x.begin(0, 0, 3);
+        Steps.areCandidates("three of five", x, 0, 2 + ASKED, 1 + ASKED, 4);
+        Steps.silentTicks(x, 8);
+        Steps.areCandidates("no others come in", x, 0, 2 + FAILED, 1 + FAILED, 4 + FAILED);
+        Due.is("no others come in: lookup(0)", x.lookup(0), 2);
     }
 
     private static void beginForgetsTheOneBefore() {
@@ -322,13 +338,16 @@ public final class LookupsTest {
         Steps.deliverAll(x);
         Steps.silentTicks(x, 16);
         x.begin(90, 0, 90);
+        x.begin(50, 0, 50);
         x.begin(30, 0, 30);
         Steps.dropAll(x);
         Due.is("by number: three ticks", x.tick() + x.tick() + x.tick(), 0);
-        Due.is("by number: tick()", x.tick(), 4);
-        Due.is("by number: waiting()", x.waiting() >= 2, true);
-        Due.is("by number: the first sender", x.datagram(0, 1), 30);
-        Due.is("by number: the last sender", x.datagram(x.waiting() - 1, 1), 90);
+        Due.is("by number: tick()", x.tick(), 6);
+        int[] senders = {30, 50, 90};
+        Due.is("by number: waiting()", x.waiting(), 3);
+        for (int k = 0; k < 3; k++) {
+            Due.is("by number: sender " + k, x.datagram(k, 1), senders[k]);
+        }
     }
 
     private static void tickMissesOnlyContacts() {
@@ -342,6 +361,18 @@ public final class LookupsTest {
         Due.is("no contact: closest(0, 5, 0)", x.closest(0, 5, 0), 4);
         Due.is("no contact: closest(0, 5, 1)", x.closest(0, 5, 1), 7);
         Due.is("no contact: closest(0, 5, 2)", x.closest(0, 5, 2), 1);
+    }
+
+    private static void tickLeavesOutWhoLeft() {
+        XorOverlay x = small();
+        x.begin(0, 0, 5);
+        x.begin(4, 0, 5);
+        Steps.dropAll(x);
+        x.leave(0);
+        Due.is("left: three ticks", x.tick() + x.tick() + x.tick(), 0);
+        Due.is("left: 4 alone waits in vain", x.tick(), 2);
+        Due.is("left: waiting()", x.waiting(), 1);
+        Due.is("left: sender", x.datagram(0, 1), 4);
     }
 
     private static void candidateNeedsAPlace() {
