@@ -21,16 +21,16 @@ public final class DatagramsTest {
         Due.end();
     }
 
-    private static XorOverlay pair() {
-        XorOverlay x = new XorOverlay();
+    private static Net pair() {
+        Net x = new Net();
         x.join(0, -1);
         x.join(1, 0);
         return x;
     }
 
     /** So many FINDs of 1 to 0 wait, with the serials from 1 on. */
-    private static XorOverlay crowded(int count) {
-        XorOverlay x = pair();
+    private static Net crowded(int count) {
+        Net x = pair();
         for (int i = 1; i < count; i++) {
             x.leave(1);
             x.join(1, 0);
@@ -39,7 +39,7 @@ public final class DatagramsTest {
     }
 
     private static void waitingCounts() {
-        XorOverlay x = new XorOverlay();
+        Net x = new Net();
         x.join(0, -1);
         Due.is("none: waiting()", x.waiting(), 0);
         x.join(1, 0);
@@ -52,7 +52,7 @@ public final class DatagramsTest {
     }
 
     private static void datagramTellsFindAndGet() {
-        XorOverlay x = pair();
+        Net x = pair();
         Steps.isDatagram("FIND", x, 0, 0, 1, 0, 1, 1);
         Steps.deliverAll(x);
         x.begin(1, 1, 255);
@@ -60,7 +60,7 @@ public final class DatagramsTest {
     }
 
     private static void datagramTellsNodes() {
-        XorOverlay x = new XorOverlay();
+        Net x = new Net();
         x.join(0, -1);
         int[] announcers = {1, 2, 3};
         for (int p : announcers) {
@@ -81,7 +81,7 @@ public final class DatagramsTest {
     }
 
     private static void datagramTellsStore() {
-        XorOverlay x = pair();
+        Net x = pair();
         Steps.deliverAll(x);
         x.begin(1, 2, 200);
         x.deliver(0);
@@ -91,7 +91,7 @@ public final class DatagramsTest {
     }
 
     private static void datagramIsRefused() {
-        XorOverlay x = pair();
+        Net x = pair();
         int[] wrong = {-1, 12, 13, 24, Integer.MIN_VALUE, Integer.MAX_VALUE};
         for (int what : wrong) {
             Due.is("datagram(0, " + what + ")", x.datagram(0, what), -1);
@@ -107,7 +107,7 @@ public final class DatagramsTest {
     }
 
     private static void tokenFollowsEpoch() {
-        XorOverlay x = pair();
+        Net x = pair();
         x.deliver(0);
         Due.is("epoch 1: token", x.datagram(0, 5), 40200);
         Steps.silentTicks(x, 7);
@@ -123,7 +123,7 @@ public final class DatagramsTest {
         x.begin(1, 0, 5);
         x.deliver(0);
         Due.is("clock 16: token", x.datagram(0, 5), 34219);
-        XorOverlay y = new XorOverlay();
+        Net y = new Net();
         y.join(255, -1);
         Steps.ticks(y, 472);
         y.join(254, 255);
@@ -132,7 +132,7 @@ public final class DatagramsTest {
     }
 
     private static void nodesLeaveOutTheAsker() {
-        XorOverlay x = new XorOverlay();
+        Net x = new Net();
         x.join(128, -1);
         int[] guests = {10, 11, 12, 140, 9};
         for (int guest : guests) {
@@ -156,7 +156,7 @@ public final class DatagramsTest {
     }
 
     private static void deliverAnyPlace() {
-        XorOverlay x = new XorOverlay();
+        Net x = new Net();
         x.join(0, -1);
         x.join(1, 0);
         x.join(2, 0);
@@ -176,7 +176,7 @@ public final class DatagramsTest {
     }
 
     private static void deliverIsRefused() {
-        XorOverlay x = pair();
+        Net x = pair();
         int[] wrong = {-1, 1, 24, Integer.MIN_VALUE, Integer.MAX_VALUE};
         for (int k : wrong) {
             Due.is("deliver(" + k + ")", x.deliver(k), -1);
@@ -186,7 +186,7 @@ public final class DatagramsTest {
     }
 
     private static void nodesFromAStranger() {
-        XorOverlay x = pair();
+        Net x = pair();
         x.deliver(0);
         x.leave(1);
         x.join(1, 0);
@@ -199,7 +199,7 @@ public final class DatagramsTest {
     }
 
     private static void dropTakesOut() {
-        XorOverlay x = new XorOverlay();
+        Net x = new Net();
         x.join(0, -1);
         x.join(1, 0);
         x.join(2, 0);
@@ -221,7 +221,7 @@ public final class DatagramsTest {
     }
 
     private static void lineHoldsTwentyFour() {
-        XorOverlay x = crowded(24);
+        Net x = crowded(24);
         Due.is("24: waiting()", x.waiting(), 24);
         Due.is("24: the last serial", x.datagram(23, 3), 24);
         x.leave(1);
@@ -241,7 +241,7 @@ public final class DatagramsTest {
     }
 
     private static void answerTakesTheFreedPlace() {
-        XorOverlay x = crowded(24);
+        Net x = crowded(24);
         Due.is("full: deliver(5)", x.deliver(5), 1);
         Due.is("full: waiting()", x.waiting(), 24);
         Due.is("full: fifth", x.datagram(4, 3), 5);
@@ -250,7 +250,7 @@ public final class DatagramsTest {
     }
 
     private static void storesAreLostWithoutRoom() {
-        XorOverlay x = new XorOverlay();
+        Net x = new Net();
         x.join(0, -1);
         Steps.see(x, 0, 1);
         Steps.see(x, 0, 2);

@@ -1,19 +1,29 @@
 /** Counts and prints the answers that are not the ones that are due. */
 final class Due {
     private static int wrong = 0;
+    private static String shown = "";
 
     private Due() {
     }
 
+    /** Names the promise, and the words of the document, that the answers from here on show. */
+    static void shows(String promise, String words) {
+        shown = promise + ", \"" + words + "\": ";
+    }
+
     static void is(String call, long got, long want) {
         if (got != want) {
-            wrong++;
-            System.out.println(call + " answered " + got + ", due is " + want);
+            tell(call + " answered " + got + ", due is " + want);
         }
     }
 
     static void is(String call, boolean got, boolean want) {
         is(call, got ? 1 : 0, want ? 1 : 0);
+    }
+
+    static void tell(String fault) {
+        wrong++;
+        System.out.println(shown + fault);
     }
 
     static void end() {

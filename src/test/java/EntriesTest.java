@@ -18,28 +18,28 @@ public final class EntriesTest {
     }
 
     /** 1 knows 0, and no lookup runs. */
-    private static XorOverlay pair() {
-        XorOverlay x = new XorOverlay();
+    private static Net pair() {
+        Net x = new Net();
         x.join(0, -1);
         x.join(1, 0);
         Steps.deliverAll(x);
         return x;
     }
 
-    private static void announce(XorOverlay x, int p, int key) {
+    private static void announce(Net x, int p, int key) {
         x.begin(p, 2, key);
         Steps.deliverAll(x);
     }
 
     /** p's ANNOUNCE has ended, and its one STORE waits alone. */
-    private static void announceUpToStore(XorOverlay x, int p, int key) {
+    private static void announceUpToStore(Net x, int p, int key) {
         x.begin(p, 2, key);
         x.deliver(0);
         x.deliver(0);
     }
 
     private static void entryLastsTwentyFour() {
-        XorOverlay x = pair();
+        Net x = pair();
         Steps.ticks(x, 5);
         announce(x, 1, 255);
         Due.is("lasts: entry(0, 0)", x.entry(0, 0), 255 + 256 + 24 * TICK);
@@ -56,7 +56,7 @@ public final class EntriesTest {
     }
 
     private static void storeAgainLengthens() {
-        XorOverlay x = pair();
+        Net x = pair();
         announce(x, 1, 9);
         announce(x, 1, 8);
         Steps.ticks(x, 10);
@@ -74,12 +74,12 @@ public final class EntriesTest {
     }
 
     private static void tokenOfTheEpochBefore() {
-        XorOverlay x = pair();
+        Net x = pair();
         announceUpToStore(x, 1, 9);
         Steps.ticks(x, 15);
         Due.is("the epoch before: deliver(0)", x.deliver(0), 1);
         Due.is("the epoch before: entry(0, 0)", x.entry(0, 0), 9 + 256 + 24 * TICK);
-        XorOverlay y = pair();
+        Net y = pair();
         Steps.ticks(y, 7);
         announceUpToStore(y, 1, 9);
         y.tick();
@@ -88,7 +88,7 @@ public final class EntriesTest {
     }
 
     private static void tokenTooOld() {
-        XorOverlay x = pair();
+        Net x = pair();
         announceUpToStore(x, 1, 9);
         Steps.ticks(x, 16);
         Due.is("two epochs before: deliver(0)", x.deliver(0), 1);
@@ -101,7 +101,7 @@ public final class EntriesTest {
     }
 
     private static void sixAtMost() {
-        XorOverlay x = pair();
+        Net x = pair();
         for (int key = 10; key <= 16; key++) {
             announce(x, 1, key);
         }
@@ -121,7 +121,7 @@ public final class EntriesTest {
     }
 
     private static void othersMoveUp() {
-        XorOverlay x = pair();
+        Net x = pair();
         for (int i = 0; i < 3; i++) {
             announce(x, 1, 20 + i);
             x.tick();
@@ -136,7 +136,7 @@ public final class EntriesTest {
     }
 
     private static void holdersAreThree() {
-        XorOverlay x = new XorOverlay();
+        Net x = new Net();
         x.join(0, -1);
         int[] announcers = {4, 3, 2, 1};
         for (int p : announcers) {
@@ -158,7 +158,7 @@ public final class EntriesTest {
     }
 
     private static void entryIsRefused() {
-        XorOverlay x = pair();
+        Net x = pair();
         announce(x, 1, 9);
         int[] wrong = {-1, 1, 6, 7, Integer.MIN_VALUE, Integer.MAX_VALUE};
         for (int j : wrong) {

@@ -33,8 +33,8 @@ public final class LookupsTest {
     }
 
     /** 0 knows 1, 2 and 4; 4 knows 0, 5 and 7. Serials 1 to 5 are used up, no lookup runs. */
-    private static XorOverlay small() {
-        XorOverlay x = new XorOverlay();
+    private static Net small() {
+        Net x = new Net();
         x.join(0, -1);
         Steps.see(x, 0, 1);
         Steps.see(x, 0, 2);
@@ -46,7 +46,7 @@ public final class LookupsTest {
     }
 
     private static void beginIsRefused() {
-        XorOverlay x = small();
+        Net x = small();
         int[] wrong = {-1, 256, 3, Integer.MIN_VALUE, Integer.MAX_VALUE};
         for (int n : wrong) {
             Due.is("begin(" + n + ", 0, 5)", x.begin(n, 0, 5), false);
@@ -66,7 +66,7 @@ public final class LookupsTest {
     }
 
     private static void beginWithoutContacts() {
-        XorOverlay x = new XorOverlay();
+        Net x = new Net();
         x.join(3, -1);
         for (int kind = 0; kind <= 2; kind++) {
             Due.is("without contacts: begin", x.begin(3, kind, 0), true);
@@ -80,7 +80,7 @@ public final class LookupsTest {
     }
 
     private static void beginAsksTwo() {
-        XorOverlay x = small();
+        Net x = small();
         x.begin(0, 0, 3);
         Steps.areCandidates("two", x, 0, 2 + ASKED, 1 + ASKED, 4);
         Due.is("two: waiting()", x.waiting(), 2);
@@ -96,7 +96,7 @@ public final class LookupsTest {
 
     private static void beginAsksInTheWordOfItsKind() {
         for (int kind = 0; kind <= 2; kind++) {
-            XorOverlay x = small();
+            Net x = small();
             x.begin(0, kind, 5);
             int word = kind == 1 ? 1 : 0;
             Steps.isDatagram("kind " + kind, x, 0, word, 0, 4, 6, 5);
@@ -107,7 +107,7 @@ public final class LookupsTest {
     }
 
     private static void beginTakesThreeAtMost() {
-        XorOverlay x = new XorOverlay();
+        Net x = new Net();
         x.join(0, -1);
         int[] guests = {1, 2, 200, 4, 210};
         for (int guest : guests) {
@@ -121,7 +121,7 @@ public final class LookupsTest {
     }
 
     private static void beginForgetsTheOneBefore() {
-        XorOverlay x = small();
+        Net x = small();
         x.begin(0, 2, 5);
         Steps.deliverAll(x);
         x.begin(0, 1, 5);
@@ -141,7 +141,7 @@ public final class LookupsTest {
     }
 
     private static void beginTouches() {
-        XorOverlay x = new XorOverlay();
+        Net x = new Net();
         x.join(0, -1);
         int[] guests = {1, 2, 200, 4};
         for (int guest : guests) {
@@ -159,7 +159,7 @@ public final class LookupsTest {
     }
 
     private static void farCandidatesStayNew() {
-        XorOverlay x = small();
+        Net x = small();
         x.begin(0, 0, 5);
         Steps.areCandidates("far", x, 0, 4 + ASKED, 1 + ASKED, 2);
         x.deliver(0);
@@ -174,7 +174,7 @@ public final class LookupsTest {
     }
 
     private static void pushedOutCandidateIsWaitedFor() {
-        XorOverlay x = small();
+        Net x = small();
         x.begin(0, 0, 5);
         x.drop(1);
         Steps.deliverAll(x);
@@ -190,7 +190,7 @@ public final class LookupsTest {
     }
 
     private static void announceStores() {
-        XorOverlay x = small();
+        Net x = small();
         x.begin(0, 2, 5);
         for (int i = 0; i < 7; i++) {
             Due.is("announce: no STORE yet", x.datagram(0, 0) < 3, true);
@@ -206,7 +206,7 @@ public final class LookupsTest {
     }
 
     private static void announceSkipsFailed() {
-        XorOverlay x = small();
+        Net x = small();
         x.leave(5);
         x.leave(7);
         x.begin(0, 2, 5);
@@ -224,7 +224,7 @@ public final class LookupsTest {
     }
 
     private static void lateAnswersAreNotTaken() {
-        XorOverlay x = small();
+        Net x = small();
         x.begin(0, 0, 5);
         x.deliver(0);
         Steps.ticks(x, 4);
@@ -242,7 +242,7 @@ public final class LookupsTest {
     }
 
     private static void refreshWithoutContacts() {
-        XorOverlay x = new XorOverlay();
+        Net x = new Net();
         Steps.ticks(x, 290);
         x.join(9, -1);
         Steps.ticks(x, 15);
@@ -258,7 +258,7 @@ public final class LookupsTest {
     }
 
     private static void refreshTakesTheFirstStaleBucket() {
-        XorOverlay x = new XorOverlay();
+        Net x = new Net();
         x.join(16, -1);
         int[] guests = {17, 18, 20, 24};
         for (int guest : guests) {
@@ -289,7 +289,7 @@ public final class LookupsTest {
     }
 
     private static void refreshIsRefused() {
-        XorOverlay x = new XorOverlay();
+        Net x = new Net();
         x.join(1, -1);
         x.leave(1);
         Steps.ticks(x, 30);
@@ -301,7 +301,7 @@ public final class LookupsTest {
     }
 
     private static void tickFailsTheSilent() {
-        XorOverlay x = small();
+        Net x = small();
         x.begin(0, 0, 5);
         x.tick();
         x.deliver(0);
@@ -325,7 +325,7 @@ public final class LookupsTest {
     }
 
     private static void tickGoesByNumber() {
-        XorOverlay x = new XorOverlay();
+        Net x = new Net();
         x.join(50, -1);
         int[] guests = {60, 70, 80};
         for (int guest : guests) {
@@ -351,7 +351,7 @@ public final class LookupsTest {
     }
 
     private static void tickMissesOnlyContacts() {
-        XorOverlay x = small();
+        Net x = small();
         x.leave(5);
         x.begin(0, 0, 5);
         Steps.deliverAll(x);
@@ -364,7 +364,7 @@ public final class LookupsTest {
     }
 
     private static void tickLeavesOutWhoLeft() {
-        XorOverlay x = small();
+        Net x = small();
         x.begin(0, 0, 5);
         x.begin(4, 0, 5);
         Steps.dropAll(x);
@@ -376,7 +376,7 @@ public final class LookupsTest {
     }
 
     private static void candidateNeedsAPlace() {
-        XorOverlay x = small();
+        Net x = small();
         Due.is("no lookup: candidate(0, 0)", x.candidate(0, 0), -1);
         x.begin(0, 0, 5);
         int[] wrong = {-1, 3, 12, 256, Integer.MIN_VALUE, Integer.MAX_VALUE};
@@ -392,7 +392,7 @@ public final class LookupsTest {
     }
 
     private static void foundKeepsOrder() {
-        XorOverlay x = new XorOverlay();
+        Net x = new Net();
         x.join(0, -1);
         // 3 announces at 0 alone, 2 at both others, 1 at 0: 0 keeps 3, 2, 1.
         int[] announcers = {3, 2, 1};

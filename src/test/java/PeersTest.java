@@ -20,7 +20,7 @@ public final class PeersTest {
     }
 
     private static void newObjectIsEmpty() {
-        XorOverlay x = new XorOverlay();
+        Net x = new Net();
         Due.is("new: clock()", x.clock(), 0);
         Due.is("new: waiting()", x.waiting(), 0);
         Due.is("new: datagram(0, 0)", x.datagram(0, 0), -1);
@@ -33,8 +33,8 @@ public final class PeersTest {
     }
 
     private static void objectsAreApart() {
-        XorOverlay x = new XorOverlay();
-        XorOverlay y = new XorOverlay();
+        Net x = new Net();
+        Net y = new Net();
         x.join(1, -1);
         x.join(2, 1);
         x.tick();
@@ -47,7 +47,7 @@ public final class PeersTest {
     }
 
     private static void joinAlone() {
-        XorOverlay x = new XorOverlay();
+        Net x = new Net();
         Steps.ticks(x, 3);
         Due.is("join(0, -1)", x.join(0, -1), true);
         Due.is("join(255, -1)", x.join(255, -1), true);
@@ -62,7 +62,7 @@ public final class PeersTest {
     }
 
     private static void joinByAnother() {
-        XorOverlay x = new XorOverlay();
+        Net x = new Net();
         x.join(10, -1);
         Steps.ticks(x, 3);
         Due.is("join(77, 10)", x.join(77, 10), true);
@@ -77,7 +77,7 @@ public final class PeersTest {
     }
 
     private static void joinIsRefused() {
-        XorOverlay x = new XorOverlay();
+        Net x = new Net();
         x.join(10, -1);
         int[] wrong = {-1, 256, -2, Integer.MIN_VALUE, Integer.MAX_VALUE};
         for (int p : wrong) {
@@ -98,7 +98,7 @@ public final class PeersTest {
     }
 
     private static void refusedJoinTakesNoPlace() {
-        XorOverlay x = new XorOverlay();
+        Net x = new Net();
         for (int i = 0; i < 20; i++) {
             x.join(100 + i, 99);
             x.join(-1 - i, -1);
@@ -109,7 +109,7 @@ public final class PeersTest {
     }
 
     private static void thirteenthIsRefused() {
-        XorOverlay x = new XorOverlay();
+        Net x = new Net();
         for (int i = 0; i < 12; i++) {
             Due.is("one of twelve joins", x.join(240 - 20 * i, i == 0 ? -1 : 240), true);
         }
@@ -127,7 +127,7 @@ public final class PeersTest {
     }
 
     private static void joinAnewForgets() {
-        XorOverlay x = new XorOverlay();
+        Net x = new Net();
         x.join(0, -1);
         int[] guests = {1, 2, 200, 4};
         for (int guest : guests) {
@@ -160,7 +160,7 @@ public final class PeersTest {
     }
 
     private static void leave() {
-        XorOverlay x = new XorOverlay();
+        Net x = new Net();
         x.join(3, -1);
         int[] wrong = {-1, 4, 256, Integer.MIN_VALUE, Integer.MAX_VALUE};
         for (int p : wrong) {
@@ -181,7 +181,7 @@ public final class PeersTest {
     }
 
     private static void datagramsOutliveLeaving() {
-        XorOverlay x = new XorOverlay();
+        Net x = new Net();
         x.join(1, -1);
         x.join(2, 1);
         x.join(3, 1);
@@ -206,7 +206,7 @@ public final class PeersTest {
     }
 
     private static void clockCountsTicks() {
-        XorOverlay x = new XorOverlay();
+        Net x = new Net();
         for (int i = 1; i <= 40; i++) {
             x.tick();
             Due.is("clock() after " + i + " ticks", x.clock(), i);
@@ -218,7 +218,7 @@ public final class PeersTest {
     }
 
     private static void lookupTellsStage() {
-        XorOverlay x = new XorOverlay();
+        Net x = new Net();
         x.join(1, -1);
         Due.is("none: lookup(1)", x.lookup(1), 0);
         x.join(2, 1);

@@ -22,17 +22,8 @@ public final class TablesTest {
         Due.end();
     }
 
-    private static XorOverlay host(int number, int... guests) {
-        XorOverlay x = new XorOverlay();
-        x.join(number, -1);
-        for (int guest : guests) {
-            Steps.see(x, number, guest);
-        }
-        return x;
-    }
-
     private static void newOnesGoToTheEnd() {
-        XorOverlay x = host(0, 9);
+        Net x = Steps.host(0, 9);
         x.tick();
         Due.is("one: bucket(0, 0)", x.bucket(0, 0), 256 + 1024);
         Steps.see(x, 0, 255);
@@ -44,7 +35,7 @@ public final class TablesTest {
     }
 
     private static void knownOnesMoveToTheEnd() {
-        XorOverlay x = host(0, 9, 8, 7);
+        Net x = Steps.host(0, 9, 8, 7);
         Steps.ticks(x, 2);
         Steps.see(x, 0, 8);
         Steps.areContacts("8 moves", x, 0, 0, 9, 7, 8);
@@ -57,7 +48,7 @@ public final class TablesTest {
     }
 
     private static void seenAnewHasNoMisses() {
-        XorOverlay x = host(0, 9, 8);
+        Net x = Steps.host(0, 9, 8);
         x.begin(0, 0, 9);
         Steps.silentTicks(x, 4);
         Steps.areContacts("missed", x, 0, 0, 9 + 256, 8 + 256);
@@ -69,7 +60,7 @@ public final class TablesTest {
     }
 
     private static void splitKeepsOrderAndTouch() {
-        XorOverlay x = host(0, 2);
+        Net x = Steps.host(0, 2);
         x.tick();
         Steps.see(x, 0, 200);
         x.tick();
@@ -81,7 +72,7 @@ public final class TablesTest {
         Steps.areContacts("upper half", x, 0, 1, 200);
         Due.is("split: bucket(0, 0)", x.bucket(0, 0), 768);
         Due.is("split: bucket(0, 1)", x.bucket(0, 1), 128 + 256 + 1024);
-        XorOverlay y = host(200, 150, 140, 130, 127);
+        Net y = Steps.host(200, 150, 140, 130, 127);
         Due.is("edge: buckets(200)", y.buckets(200), 2);
         Steps.areContacts("edge, lower half", y, 200, 0, 127);
         Steps.areContacts("edge, upper half", y, 200, 1, 150, 140, 130);
@@ -95,7 +86,7 @@ public final class TablesTest {
     }
 
     private static void splitAgainAndAgain() {
-        XorOverlay x = host(0, 1, 2, 3, 4);
+        Net x = Steps.host(0, 1, 2, 3, 4);
         int[] firsts = {0, 4, 8, 16, 32, 64, 128};
         int[] counts = {3, 1, 0, 0, 0, 0, 0};
         Due.is("again: buckets(0)", x.buckets(0), 7);
@@ -105,7 +96,7 @@ public final class TablesTest {
         Due.is("again: bucket(0, 7)", x.bucket(0, 7), -1);
         Steps.areContacts("again", x, 0, 0, 1, 2, 3);
         Steps.areContacts("again", x, 0, 1, 4);
-        XorOverlay y = host(255, 252, 253, 254, 251);
+        Net y = Steps.host(255, 252, 253, 254, 251);
         int[] upper = {0, 128, 192, 224, 240, 248, 252};
         Due.is("at the other end: buckets(255)", y.buckets(255), 7);
         for (int b = 0; b < 7; b++) {
@@ -115,7 +106,7 @@ public final class TablesTest {
     }
 
     private static void splitStaysThoughNothingIsPut() {
-        XorOverlay x = host(128, 0, 1, 2);
+        Net x = Steps.host(128, 0, 1, 2);
         x.tick();
         Steps.see(x, 128, 3);
         Due.is("no room: buckets(128)", x.buckets(128), 2);
@@ -125,7 +116,7 @@ public final class TablesTest {
     }
 
     private static void missesGoWithTheirContact() {
-        XorOverlay x = host(0, 1, 200, 2);
+        Net x = Steps.host(0, 1, 200, 2);
         x.begin(0, 0, 200);
         Steps.silentTicks(x, 4);
         Steps.areContacts("before the split", x, 0, 0, 1 + 256, 200 + 256, 2);
@@ -135,7 +126,7 @@ public final class TablesTest {
     }
 
     private static void firstTiredContactYields() {
-        XorOverlay x = host(128, 0, 1, 2, 3);
+        Net x = Steps.host(128, 0, 1, 2, 3);
         x.begin(128, 0, 2);
         Steps.silentTicks(x, 8);
         Steps.areContacts("one miss each", x, 128, 0, 0 + 256, 1 + 256, 2 + 256);
@@ -153,14 +144,14 @@ public final class TablesTest {
     }
 
     private static void oneMissIsNotEnough() {
-        XorOverlay x = host(128, 0, 1, 2, 3);
+        Net x = Steps.host(128, 0, 1, 2, 3);
         x.begin(128, 0, 2);
         Steps.silentTicks(x, 8);
         Steps.see(x, 128, 3);
         Steps.areContacts("one miss each", x, 128, 0, 0 + 256, 1 + 256, 2 + 256);
         Due.is("one miss each: not touched", x.bucket(128, 0), 768 + 1024 * 8);
         // A bucket that splits for its peer loses nobody, however many misses.
-        XorOverlay y = host(0, 1, 2, 200);
+        Net y = Steps.host(0, 1, 2, 200);
         for (int i = 0; i < 3; i++) {
             y.begin(0, 0, 0);
             Steps.silentTicks(y, 8);
@@ -171,7 +162,7 @@ public final class TablesTest {
     }
 
     private static void answersAreSeenToo() {
-        XorOverlay x = new XorOverlay();
+        Net x = new Net();
         x.join(0, -1);
         Steps.see(x, 0, 1);
         Steps.see(x, 0, 2);
@@ -201,7 +192,7 @@ public final class TablesTest {
     }
 
     private static void bucketsIsRefused() {
-        XorOverlay x = host(0, 1);
+        Net x = Steps.host(0, 1);
         x.leave(1);
         int[] wrong = {-1, 1, 2, 256, Integer.MIN_VALUE, Integer.MAX_VALUE};
         for (int p : wrong) {
@@ -211,7 +202,7 @@ public final class TablesTest {
     }
 
     private static void bucketIsRefused() {
-        XorOverlay x = host(0, 1, 2, 3, 4);
+        Net x = Steps.host(0, 1, 2, 3, 4);
         x.leave(1);
         int[] wrong = {-1, 7, 8, 9, 10, Integer.MIN_VALUE, Integer.MAX_VALUE};
         for (int b : wrong) {
@@ -226,7 +217,7 @@ public final class TablesTest {
     }
 
     private static void contactIsRefused() {
-        XorOverlay x = host(0, 1, 2, 3);
+        Net x = Steps.host(0, 1, 2, 3);
         int[] wrong = {-1, 3, 4, Integer.MIN_VALUE, Integer.MAX_VALUE};
         for (int j : wrong) {
             Due.is("contact(0, 0, " + j + ")", x.contact(0, 0, j), -1);
@@ -238,7 +229,7 @@ public final class TablesTest {
     }
 
     private static void closestGoesByDistance() {
-        XorOverlay x = host(128, 5, 64, 200, 129, 140);
+        Net x = Steps.host(128, 5, 64, 200, 129, 140);
         // Distances from 69: 5 has 64, 64 has 5, 200 has 141, 129 has 196, 140 has 201.
         Due.is("closest(128, 69, 0)", x.closest(128, 69, 0), 64);
         Due.is("closest(128, 69, 1)", x.closest(128, 69, 1), 5);
@@ -250,12 +241,12 @@ public final class TablesTest {
         Due.is("closest(128, 255, 0)", x.closest(128, 255, 0), 200);
         Due.is("closest of one: the peer itself is none", x.closest(5, 5, 0), 128);
         Due.is("closest of one: no second", x.closest(5, 5, 1), -1);
-        XorOverlay y = host(9, 0);
+        Net y = Steps.host(9, 0);
         Due.is("a contact at no distance", y.closest(9, 0, 0), 0);
     }
 
     private static void closestIsRefused() {
-        XorOverlay x = host(128, 5, 64, 200, 129, 140);
+        Net x = Steps.host(128, 5, 64, 200, 129, 140);
         x.leave(5);
         int[] wrong = {-1, 3, 4, Integer.MIN_VALUE, Integer.MAX_VALUE};
         for (int j : wrong) {
@@ -269,7 +260,7 @@ public final class TablesTest {
         for (int p : wrongPeers) {
             Due.is("closest(" + p + ", 69, 0)", x.closest(p, 69, 0), -1);
         }
-        XorOverlay y = new XorOverlay();
+        Net y = new Net();
         y.join(0, -1);
         Due.is("no contacts: closest(0, 0, 0)", y.closest(0, 0, 0), -1);
     }
