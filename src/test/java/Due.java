@@ -11,6 +11,11 @@ final class Due {
         shown = promise + ", \"" + words + "\": ";
     }
 
+    /** The same, with what of those words it is about. */
+    static void shows(String promise, String words, String remark) {
+        shown = promise + ", \"" + words + "\" (" + remark + "): ";
+    }
+
     static void is(String call, long got, long want) {
         if (got != want) {
             tell(call + " answered " + got + ", due is " + want);

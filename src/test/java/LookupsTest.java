@@ -1,4 +1,4 @@
-/** Promises 4 (begin), 5 (refresh), 6 (tick), 13 (candidate) and 14 (found). */
+/** The bounds that Terms name for lookups, and promises 4, 13 and 14. */
 public final class LookupsTest {
     private static final int ASKED = 256;
     private static final int ANSWERED = 512;
@@ -8,105 +8,626 @@ public final class LookupsTest {
     }
 
     public static void main(String[] args) {
-        beginIsRefused();
-        beginWithoutContacts();
-        beginAsksTwo();
-        beginAsksInTheWordOfItsKind();
-        beginTakesThreeAtMost();
-        beginForgetsTheOneBefore();
-        beginTouches();
-        farCandidatesStayNew();
-        pushedOutCandidateIsWaitedFor();
-        announceStores();
-        announceSkipsFailed();
-        lateAnswersAreNotTaken();
-        refreshWithoutContacts();
-        refreshTakesTheFirstStaleBucket();
-        refreshIsRefused();
-        tickFailsTheSilent();
-        tickGoesByNumber();
-        tickMissesOnlyContacts();
-        tickLeavesOutWhoLeft();
-        candidateNeedsAPlace();
-        foundKeepsOrder();
+        kindsAre0To2();
+        targetsAre0To255();
+        runningCannotBegin();
+        withoutContactsItHasEnded();
+        threeContactsAreCandidates();
+        beginTouchesTheBucketOfTheTarget();
+        serialsCountFromOne();
+        formerLookupIsForgotten();
+        twoAreAskedAtOnce();
+        fourthIsNotAsked();
+        failedGivesItsPlace();
+        askedIsWaitedForBehindTheThird();
+        storesGoToThreeAtMost();
+        noStoreWhenAllFailed();
+        toldOnesComeInOrder();
+        toldAgainStayAsTheyAre();
+        toldAgainStayFailed();
+        answerWithoutALookup();
+        answerToAnEndedLookup();
+        answerToAnotherLookup();
+        answerOfAFailedOne();
+        candidateHasAPlace();
+        elevenCandidates();
+        foundHasAPlace();
+        foundOnce();
+        twelveFound();
+        noOtherContactComesIn();
+        storesPassOverTheFailed();
         Due.end();
     }
 
     /** 0 knows 1, 2 and 4; 4 knows 0, 5 and 7. Serials 1 to 5 are used up, no lookup runs. */
     private static Net small() {
-        Net x = new Net();
-        x.join(0, -1);
-        Steps.see(x, 0, 1);
-        Steps.see(x, 0, 2);
-        Steps.see(x, 0, 4);
+        Net x = Steps.host(0, 1, 2, 4);
         Steps.see(x, 4, 5);
         Steps.see(x, 4, 7);
         Steps.silentTicks(x, 4);
         return x;
     }
 
-    private static void beginIsRefused() {
-        Net x = small();
-        int[] wrong = {-1, 256, 3, Integer.MIN_VALUE, Integer.MAX_VALUE};
-        for (int n : wrong) {
-            Due.is("begin(" + n + ", 0, 5)", x.begin(n, 0, 5), false);
-            Due.is("begin(0, " + n + ", 5)", x.begin(0, n, 5), false);
-        }
-        int[] wrongTargets = {-1, 256, Integer.MIN_VALUE, Integer.MAX_VALUE};
-        for (int n : wrongTargets) {
-            Due.is("begin(0, 0, " + n + ")", x.begin(0, 0, n), false);
-        }
+    private static void kindsAre0To2() {
+        Due.shows("Promise 4", "a lookup of the kind (0 FIND, 1 GET, 2 ANNOUNCE) .. false,"
+                + " refused, when .. the kind is none of these");
+        Net x = Steps.host(0, 1);
+        Due.is("begin(0, -1, 5)", x.begin(0, -1, 5), false);
+        Due.is("begin(0, 3, 5)", x.begin(0, 3, 5), false);
         Due.is("refused: lookup(0)", x.lookup(0), 0);
-        Due.is("refused: waiting()", x.waiting(), 0);
-        Due.is("begin(0, 0, 255)", x.begin(0, 0, 255), true);
-        Due.is("refused ones take no serial", x.datagram(0, 3), 6);
-        Due.is("begin when running", x.begin(0, 0, 5), false);
-        Due.is("begin when running: waiting()", x.waiting(), 2);
-        Due.is("begin when running: target", x.datagram(0, 4), 255);
-    }
-
-    private static void beginWithoutContacts() {
-        Net x = new Net();
-        x.join(3, -1);
         for (int kind = 0; kind <= 2; kind++) {
-            Due.is("without contacts: begin", x.begin(3, kind, 0), true);
-            Due.is("without contacts: lookup(3)", x.lookup(3), 2);
+            Due.is("begin(0, " + kind + ", 5)", x.begin(0, kind, 5), true);
+            Due.is("kind of the datagram", x.datagram(0, 0), kind == 1 ? 1 : 0);
+            Steps.silentTicks(x, 4);
         }
-        Steps.areCandidates("without contacts", x, 3);
-        Steps.areFound("without contacts", x, 3);
-        Due.is("without contacts: waiting()", x.waiting(), 0);
-        x.join(4, 3);
-        Due.is("without contacts: each takes a serial", x.datagram(0, 3), 4);
     }
 
-    private static void beginAsksTwo() {
+    private static void targetsAre0To255() {
+        Due.shows("Promise 4", "or the target is no number; NUMBERS are 0 .. 255; they name .."
+                + " keys");
+        Net x = Steps.host(0, 1);
+        for (int kind = 0; kind <= 2; kind++) {
+            Due.is("begin(0, " + kind + ", -1)", x.begin(0, kind, -1), false);
+            Due.is("begin(0, " + kind + ", 256)", x.begin(0, kind, 256), false);
+            Due.is("begin(0, " + kind + ", 0)", x.begin(0, kind, 0), true);
+            Due.is("target of the datagram", x.datagram(0, 4), 0);
+            Steps.silentTicks(x, 4);
+            Due.is("begin(0, " + kind + ", 255)", x.begin(0, kind, 255), true);
+            Due.is("target of the datagram", x.datagram(0, 4), 255);
+            Steps.silentTicks(x, 4);
+        }
+    }
+
+    private static void runningCannotBegin() {
+        Due.shows("Promise 4", "false, refused, when p is not up, its lookup is running");
+        Net x = new Net();
+        x.join(0, -1);
+        Due.is("never joined: begin(1, 0, 5)", x.begin(1, 0, 5), false);
+        x.join(1, 0);
+        Due.is("that of the join runs: begin(1, 0, 5)", x.begin(1, 0, 5), false);
+        x.deliver(0);
+        Due.is("the answer waits: begin(1, 0, 5)", x.begin(1, 0, 5), false);
+        x.deliver(0);
+        Due.is("ended: begin(1, 0, 5)", x.begin(1, 0, 5), true);
+        Due.is("runs: begin(1, 0, 5)", x.begin(1, 0, 5), false);
+        Due.is("another's runs: begin(0, 0, 5)", x.begin(0, 0, 5), true);
+        Steps.silentTicks(x, 3);
+        Due.is("not yet failed: begin(1, 0, 5)", x.begin(1, 0, 5), false);
+        x.tick();
+        Due.is("failed, ended: begin(1, 0, 5)", x.begin(1, 0, 5), true);
+        x.leave(1);
+        Due.is("left: begin(1, 0, 5)", x.begin(1, 0, 5), false);
+        Due.is("begin(-1, 0, 5)", x.begin(-1, 0, 5), false);
+        Due.is("begin(256, 0, 5)", x.begin(256, 0, 5), false);
+        x.join(1, -1);
+        Due.is("anew, none runs: begin(1, 0, 5)", x.begin(1, 0, 5), true);
+    }
+
+    private static void withoutContactsItHasEnded() {
+        Due.shows("Promise 4", "(without contacts it has ended at once)");
+        for (int kind = 0; kind <= 2; kind++) {
+            Net x = new Net();
+            x.join(3, -1);
+            Due.is("begin(3, " + kind + ", 3)", x.begin(3, kind, 3), true);
+            Due.is("lookup(3)", x.lookup(3), 2);
+            Steps.areCandidates("none", x, 3);
+            Steps.areFound("none", x, 3);
+            Due.is("waiting()", x.waiting(), 0);
+            Due.is("begin(3, " + kind + ", 3) again", x.begin(3, kind, 3), true);
+            Due.is("tick()", x.tick(), 0);
+        }
+    }
+
+    private static void threeContactsAreCandidates() {
+        Due.shows("Promise 13", "its candidates are the three contacts of p's table closest to"
+                + " the target (or as many as there are), all NEW .. fewer than two candidates"
+                + " are ASKED");
+        int[] guests = {3, 200, 2, 1};
+        // Distances from 4: 1 has 5, 2 has 6, 3 has 7, 200 has 204.
+        int[][] due = {
+            {}, {3 + ASKED}, {3 + ASKED, 200 + ASKED}, {2 + ASKED, 3 + ASKED, 200},
+            {1 + ASKED, 2 + ASKED, 3},
+        };
+        for (int n = 0; n <= 4; n++) {
+            Net x = new Net();
+            x.join(128, -1);
+            for (int i = 0; i < n; i++) {
+                Steps.see(x, 128, guests[i]);
+            }
+            x.begin(128, 0, 4);
+            Steps.areCandidates(n + " contacts", x, 128, due[n]);
+            Due.is(n + " contacts: waiting()", x.waiting(), Math.min(n, 2));
+            Due.is(n + " contacts: lookup(128)", x.lookup(128), n == 0 ? 2 : 1);
+        }
+    }
+
+    private static void beginTouchesTheBucketOfTheTarget() {
+        Due.shows("Promise 4", "the bucket of p's table whose range has the target is touched");
+        int[][] due = {{0, 0}, {127, 0}, {128, 1}, {255, 1}};
+        for (int[] row : due) {
+            Net x = Steps.host(0, 1, 2, 200, 4);
+            Steps.ticks(x, 2);
+            x.begin(0, 0, row[0]);
+            Due.is("for " + row[0] + ": bucket(0, 0)", x.bucket(0, 0),
+                    256 * 3 + 1024 * 2 * row[1]);
+            Due.is("for " + row[0] + ": bucket(0, 1)", x.bucket(0, 1),
+                    128 + 256 + 1024 * 2 * (1 - row[1]));
+        }
+    }
+
+    private static void serialsCountFromOne() {
+        Due.shows("Promise 4", "a serial (1 for the first lookup that any peer begins, then one"
+                + " more each time)");
+        Net x = new Net();
+        x.join(0, -1);
+        x.join(1, 0);
+        Due.is("of the first, by a join", x.datagram(0, 3), 1);
+        x.begin(0, 0, 0);
+        x.begin(0, 1, 0);
+        x.join(2, 0);
+        Due.is("behind two without contacts", x.datagram(1, 3), 4);
+        x.begin(2, 0, 0);
+        x.join(2, 0);
+        x.begin(0, 3, 0);
+        x.begin(0, 0, 256);
+        x.refresh(0);
+        x.join(3, 0);
+        Due.is("behind refused ones", x.datagram(2, 3), 5);
+        Steps.silentTicks(x, 16);
+        Due.is("refresh(0)", x.refresh(0), 16);
+        x.begin(3, 1, 0);
+        Due.is("behind a refresh without contacts", x.datagram(0, 3), 7);
+        Due.is("refresh(2)", x.refresh(2), 16);
+        Due.is("of a refresh", x.datagram(1, 3), 8);
+    }
+
+    private static void formerLookupIsForgotten() {
+        Due.shows("Promise 4", "A lookup that was there before is forgotten");
+        Net x = small();
+        x.begin(0, 2, 5);
+        Steps.deliverAll(x);
+        Due.is("before: candidate(0, 4)", x.candidate(0, 4), 2);
+        x.begin(0, 1, 5);
+        Steps.areCandidates("three anew", x, 0, 5 + ASKED, 4 + ASKED, 7);
+        Steps.deliverAll(x);
+        Due.is("before: found(0, 0)", x.found(0, 0), 0);
+        x.begin(0, 0, 5);
+        Steps.areFound("nothing has been found", x, 0);
+    }
+
+    private static void twoAreAskedAtOnce() {
+        Due.shows("Promise 13", "as long as fewer than two candidates are ASKED");
         Net x = small();
         x.begin(0, 0, 3);
-        Steps.areCandidates("two", x, 0, 2 + ASKED, 1 + ASKED, 4);
-        Due.is("two: waiting()", x.waiting(), 2);
-        Steps.isDatagram("two", x, 0, 0, 0, 2, 6, 3);
-        Steps.isDatagram("two", x, 1, 0, 0, 1, 6, 3);
+        Steps.areCandidates("two of three", x, 0, 2 + ASKED, 1 + ASKED, 4);
+        Due.is("two of three: waiting()", x.waiting(), 2);
+        Due.is("the closest first", x.datagram(0, 2), 2);
+        Due.is("the second then", x.datagram(1, 2), 1);
         x.deliver(0);
-        Steps.areCandidates("two, asked", x, 0, 2 + ASKED, 1 + ASKED, 4);
+        Steps.areCandidates("not answered yet", x, 0, 2 + ASKED, 1 + ASKED, 4);
         x.deliver(1);
-        Steps.areCandidates("two, answered", x, 0, 2 + ANSWERED, 1 + ASKED, 4 + ASKED);
-        Due.is("two, answered: waiting()", x.waiting(), 2);
-        Steps.isDatagram("two, answered", x, 1, 0, 0, 4, 6, 3);
+        Steps.areCandidates("one answered", x, 0, 2 + ANSWERED, 1 + ASKED, 4 + ASKED);
+        Due.is("one answered: waiting()", x.waiting(), 2);
+        Steps.isDatagram("one more is asked", x, 1, 0, 0, 4, 6, 3);
     }
 
-    private static void beginAsksInTheWordOfItsKind() {
-        for (int kind = 0; kind <= 2; kind++) {
-            Net x = small();
-            x.begin(0, kind, 5);
-            int word = kind == 1 ? 1 : 0;
-            Steps.isDatagram("kind " + kind, x, 0, word, 0, 4, 6, 5);
-            Steps.isDatagram("kind " + kind, x, 1, word, 0, 1, 6, 5);
-            Steps.deliverAll(x);
-            Due.is("kind " + kind + ": lookup(0)", x.lookup(0), 2);
+    private static void fourthIsNotAsked() {
+        Due.shows("Promise 13", "one of the first three candidates that are not FAILED is NEW");
+        Net x = small();
+        x.begin(0, 0, 5);
+        x.deliver(0);
+        x.deliver(1);
+        Steps.areCandidates("5 and 7 are told", x, 0, 5 + ASKED, 4 + ANSWERED, 7, 1 + ASKED, 2);
+        Steps.deliverAll(x);
+        Steps.areCandidates("ended", x, 0,
+                5 + ANSWERED, 4 + ANSWERED, 7 + ANSWERED, 1 + ANSWERED, 2);
+        Due.is("the last stays NEW: lookup(0)", x.lookup(0), 2);
+        Due.is("the last stays NEW: waiting()", x.waiting(), 0);
+    }
+
+    private static void failedGivesItsPlace() {
+        Due.shows("Promise 13", "the first three candidates that are not FAILED");
+        Net x = small();
+        x.leave(7);
+        x.begin(0, 0, 5);
+        Steps.deliverAll(x);
+        Steps.areCandidates("one is silent", x, 0,
+                5 + ANSWERED, 4 + ANSWERED, 7 + ASKED, 1 + ANSWERED, 2);
+        Steps.ticks(x, 4);
+        // 5, 4 and 1 are the first three now, and 2 is the fourth.
+        Steps.areCandidates("it failed", x, 0,
+                5 + ANSWERED, 4 + ANSWERED, 7 + FAILED, 1 + ANSWERED, 2);
+        Due.is("it failed: lookup(0)", x.lookup(0), 2);
+        Net y = small();
+        y.leave(5);
+        y.leave(7);
+        y.begin(0, 0, 5);
+        Steps.deliverAll(y);
+        Steps.ticks(y, 4);
+        // 4, 1 and 2 are the first three now.
+        Steps.areCandidates("two failed", y, 0,
+                5 + FAILED, 4 + ANSWERED, 7 + FAILED, 1 + ANSWERED, 2 + ASKED);
+        Due.is("two failed: lookup(0)", y.lookup(0), 1);
+    }
+
+    private static void askedIsWaitedForBehindTheThird() {
+        Due.shows("Promise 12", "After that, if no candidate is ASKED, the lookup has ENDED");
+        Net x = small();
+        x.begin(0, 0, 5);
+        x.drop(1);
+        Steps.deliverAll(x);
+        Steps.areCandidates("the fourth is silent", x, 0,
+                5 + ANSWERED, 4 + ANSWERED, 7 + ANSWERED, 1 + ASKED, 2);
+        Due.is("the fourth is silent: lookup(0)", x.lookup(0), 1);
+        Steps.ticks(x, 3);
+        Due.is("three ticks later: lookup(0)", x.lookup(0), 1);
+        Due.is("tick()", x.tick(), 1);
+        Due.is("four ticks later: lookup(0)", x.lookup(0), 2);
+        Due.is("the fifth was not asked", x.candidate(0, 4), 2);
+    }
+
+    private static void storesGoToThreeAtMost() {
+        Due.shows("Promise 4", "to each of the first three candidates that are not FAILED (or as"
+                + " many as there are), closest first");
+        for (int n = 1; n <= 3; n++) {
+            Net x = new Net();
+            x.join(0, -1);
+            for (int guest = 1; guest <= n; guest++) {
+                Steps.see(x, 0, guest);
+            }
+            x.begin(0, 2, 0);
+            for (int i = 0; i < 2 * n; i++) {
+                Due.is("no STORE before its end", x.datagram(0, 0) != 3, true);
+                x.deliver(0);
+            }
+            Due.is(n + " answered: lookup(0)", x.lookup(0), 2);
+            Due.is(n + " answered: waiting()", x.waiting(), n);
+            for (int k = 0; k < n; k++) {
+                Due.is(n + " answered: kind", x.datagram(k, 0), 3);
+                Due.is(n + " answered: receiver", x.datagram(k, 2), k + 1);
+            }
+        }
+        Net y = small();
+        y.begin(0, 2, 5);
+        for (int i = 0; i < 8; i++) {
+            y.deliver(0);
+        }
+        Steps.areCandidates("four answered", y, 0,
+                5 + ANSWERED, 4 + ANSWERED, 7 + ANSWERED, 1 + ANSWERED, 2);
+        Due.is("four answered: waiting()", y.waiting(), 3);
+        Steps.isDatagram("the closest", y, 0, 3, 0, 5, 6, 5, 35670);
+        Steps.isDatagram("the second", y, 1, 3, 0, 4, 6, 5, 60363);
+        Steps.isDatagram("the third", y, 2, 3, 0, 7, 6, 5, 49453);
+    }
+
+    private static void noStoreWhenAllFailed() {
+        Due.shows("Promise 4", "candidates that are not FAILED (or as many as there are)");
+        Net x = Steps.host(0, 1, 2);
+        Steps.silentTicks(x, 4);
+        x.begin(0, 2, 0);
+        Steps.silentTicks(x, 3);
+        Due.is("lookup(0), three ticks", x.lookup(0), 1);
+        Due.is("tick()", x.tick(), 2);
+        Due.is("lookup(0), four ticks", x.lookup(0), 2);
+        Steps.areCandidates("all failed", x, 0, 1 + FAILED, 2 + FAILED);
+        Due.is("waiting()", x.waiting(), 0);
+        Net y = Steps.host(0, 1, 2);
+        Steps.silentTicks(y, 4);
+        y.begin(0, 2, 0);
+        y.drop(0);
+        y.deliver(0);
+        y.deliver(0);
+        Steps.ticks(y, 4);
+        Steps.areCandidates("one failed", y, 0, 1 + FAILED, 2 + ANSWERED);
+        Due.is("one failed: waiting()", y.waiting(), 1);
+        Due.is("one failed: receiver", y.datagram(0, 2), 2);
+    }
+
+    private static void toldOnesComeInOrder() {
+        Due.shows("Promise 13", "each contact of the datagram that is not a candidate becomes"
+                + " one, and is NEW .. always in the order of their distances from the target");
+        // 0 knows 8 alone; 8 tells of 9, of 10 and of 40.
+        Net x = Steps.host(0, 8);
+        Steps.see(x, 8, 40);
+        Steps.see(x, 8, 10);
+        Steps.see(x, 8, 9);
+        Steps.silentTicks(x, 4);
+        int[][] due = {
+            // Target, then who comes in which order by distance from it.
+            {8, 8 + ANSWERED, 9 + ASKED, 10 + ASKED, 40},
+            {9, 9 + ASKED, 8 + ANSWERED, 10 + ASKED, 40},
+            {42, 40 + ASKED, 10 + ASKED, 8 + ANSWERED, 9},
+            {41, 40 + ASKED, 9 + ASKED, 8 + ANSWERED, 10},
+            {43, 40 + ASKED, 10 + ASKED, 9, 8 + ANSWERED},
+        };
+        for (int[] row : due) {
+            x.leave(0);
+            x.join(0, 8);
+            Steps.silentTicks(x, 4);
+            x.begin(0, 0, row[0]);
+            x.deliver(0);
+            x.deliver(0);
+            Steps.areCandidates("for " + row[0], x, 0, row[1], row[2], row[3], row[4]);
+            Due.is("for " + row[0] + ": waiting()", x.waiting(), 2);
+            Due.is("for " + row[0] + ": 40 is no contact by that", x.closest(0, 40, 1), -1);
         }
     }
 
-    private static void beginTakesThreeAtMost() {
+    private static void toldAgainStayAsTheyAre() {
+        Due.shows("Promise 13", "each contact of the datagram that is not a candidate");
+        // 1 knows 0 and 2, and 2 knows 1.
+        Net x = Steps.host(0, 1, 2);
+        Steps.see(x, 1, 2);
+        Steps.silentTicks(x, 4);
+        x.begin(0, 0, 0);
+        x.deliver(0);
+        Due.is("1 tells of 2", x.datagram(1, 6), 2);
+        x.deliver(1);
+        Steps.areCandidates("2 was asked already", x, 0, 1 + ANSWERED, 2 + ASKED);
+        x.deliver(0);
+        Due.is("2 tells of 1", x.datagram(0, 6), 1);
+        x.deliver(0);
+        Steps.areCandidates("1 has answered already", x, 0, 1 + ANSWERED, 2 + ANSWERED);
+        Due.is("waiting()", x.waiting(), 0);
+        // 1 knows 0, 2 and 3 too: a third that is NEW is told of.
+        Net y = Steps.host(0, 1, 2, 3);
+        Steps.see(y, 1, 3);
+        Steps.silentTicks(y, 4);
+        y.begin(0, 0, 0);
+        y.deliver(0);
+        Due.is("1 tells of 3", y.datagram(1, 6), 3);
+        Steps.areCandidates("3 is new", y, 0, 1 + ASKED, 2 + ASKED, 3);
+        y.deliver(1);
+        Steps.areCandidates("3 is there once", y, 0, 1 + ANSWERED, 2 + ASKED, 3 + ASKED);
+    }
+
+    private static void toldAgainStayFailed() {
+        Due.shows("Promise 13", "each contact .. that is not a candidate", "one FAILED is one");
+        Net x = Steps.host(0, 1, 2, 3);
+        Steps.see(x, 3, 1);
+        Steps.see(x, 3, 2);
+        Steps.silentTicks(x, 4);
+        x.begin(0, 0, 0);
+        Steps.dropAll(x);
+        Steps.ticks(x, 4);
+        Steps.areCandidates("two failed", x, 0, 1 + FAILED, 2 + FAILED, 3 + ASKED);
+        x.deliver(0);
+        Due.is("3 tells of 1", x.datagram(0, 6), 1);
+        Due.is("3 tells of 2", x.datagram(0, 7), 2);
+        x.deliver(0);
+        Steps.areCandidates("they stay so", x, 0, 1 + FAILED, 2 + FAILED, 3 + ANSWERED);
+        Due.is("lookup(0)", x.lookup(0), 2);
+        Due.is("waiting()", x.waiting(), 0);
+    }
+
+    /** 0 has answered the FIND of 1, and its NODES wait. */
+    private static Net answered() {
+        Net x = new Net();
+        x.join(0, -1);
+        x.join(1, 0);
+        x.deliver(0);
+        return x;
+    }
+
+    private static void answerWithoutALookup() {
+        Due.shows("Promise 10", "NODES: if r has a lookup .. Otherwise nothing more happens");
+        Net x = answered();
+        x.leave(1);
+        x.join(1, -1);
+        Due.is("deliver(0)", x.deliver(0), 1);
+        Due.is("lookup(1)", x.lookup(1), 0);
+        Due.is("candidate(1, 0)", x.candidate(1, 0), -1);
+        Steps.areContacts("the sender is seen", x, 1, 0, 0);
+        Due.is("waiting()", x.waiting(), 0);
+    }
+
+    private static void answerToAnEndedLookup() {
+        Due.shows("Promise 10", "NODES: if r has a lookup that is running .. Otherwise nothing"
+                + " more happens");
+        Net x = answered();
+        Steps.ticks(x, 4);
+        Due.is("lookup(1)", x.lookup(1), 2);
+        Steps.areContacts("a miss", x, 1, 0, 0 + 256);
+        Due.is("deliver(0)", x.deliver(0), 1);
+        Steps.areCandidates("too late", x, 1, 0 + FAILED);
+        Due.is("lookup(1)", x.lookup(1), 2);
+        Steps.areContacts("the sender is seen", x, 1, 0, 0);
+        Net y = answered();
+        Steps.ticks(y, 3);
+        y.deliver(0);
+        Steps.areCandidates("just in time", y, 1, 0 + ANSWERED);
+        // An ANNOUNCE that ended in vain sends no STORE when the answer comes after all.
+        Net z = answered();
+        z.deliver(0);
+        z.begin(1, 2, 9);
+        z.deliver(0);
+        Steps.ticks(z, 4);
+        z.deliver(0);
+        Due.is("no STORE: waiting()", z.waiting(), 0);
+    }
+
+    private static void answerToAnotherLookup() {
+        Due.shows("Promise 10", "NODES: if r has a lookup that .. has that serial .. Otherwise"
+                + " nothing more happens");
+        Net x = answered();
+        x.leave(1);
+        x.join(1, 0);
+        Due.is("deliver(0)", x.deliver(0), 1);
+        Due.is("lookup(1)", x.lookup(1), 1);
+        Steps.areCandidates("that of the former lookup", x, 1, 0 + ASKED);
+        Due.is("waiting()", x.waiting(), 1);
+        x.deliver(0);
+        x.deliver(0);
+        Steps.areCandidates("that of the lookup", x, 1, 0 + ANSWERED);
+        Due.is("lookup(1)", x.lookup(1), 2);
+    }
+
+    private static void answerOfAFailedOne() {
+        Due.shows("Promise 10", "NODES: .. and s is one of its candidates and is ASKED .."
+                + " Otherwise nothing more happens");
+        Net x = small();
+        x.begin(0, 0, 5);
+        x.deliver(0);
+        Steps.ticks(x, 4);
+        Steps.areCandidates("failed", x, 0, 4 + FAILED, 1 + FAILED, 2 + ASKED);
+        Due.is("the NODES of 4", x.datagram(1, 1), 4);
+        x.deliver(1);
+        Steps.areCandidates("it stays so, 5 and 7 are not taken", x, 0,
+                4 + FAILED, 1 + FAILED, 2 + ASKED);
+        Due.is("it is seen, its miss is gone", x.contact(0, 0, 2), 4);
+        Due.is("lookup(0)", x.lookup(0), 1);
+    }
+
+    private static void candidateHasAPlace() {
+        Due.shows("Promise 13", "Candidate j (0 is the closest) of p's lookup .. -1 when p is not"
+                + " up, it has no lookup, or there is no such candidate");
+        Net x = Steps.host(0, 1, 2, 3);
+        Due.is("no lookup: candidate(0, 0)", x.candidate(0, 0), -1);
+        x.begin(0, 0, 0);
+        Due.is("candidate(0, -1)", x.candidate(0, -1), -1);
+        Due.is("candidate(0, 0)", x.candidate(0, 0), 1 + ASKED);
+        Due.is("candidate(0, 2)", x.candidate(0, 2), 3);
+        Due.is("candidate(0, 3)", x.candidate(0, 3), -1);
+        Due.is("candidate(-1, 0)", x.candidate(-1, 0), -1);
+        Due.is("candidate(4, 0)", x.candidate(4, 0), -1);
+        Due.is("candidate(256, 0)", x.candidate(256, 0), -1);
+        x.leave(0);
+        Due.is("left: candidate(0, 0)", x.candidate(0, 0), -1);
+        x.join(0, -1);
+        Due.is("anew: candidate(0, 0)", x.candidate(0, 0), -1);
+    }
+
+    private static void elevenCandidates() {
+        Due.shows("Promise 13", "At most twelve different numbers may ever join",
+                "all others may be candidates");
+        // Each of 20, 80, 140 and 200 knows the next ones up to the next of these.
+        Net x = Steps.host(0, 20);
+        for (int host = 20; host <= 200; host += 60) {
+            for (int guest = host + 20; guest <= Math.min(host + 60, 220); guest += 20) {
+                Steps.see(x, host, guest);
+            }
+        }
+        Steps.silentTicks(x, 4);
+        x.begin(0, 0, 255);
+        Steps.deliverAll(x);
+        Due.is("lookup(0)", x.lookup(0), 2);
+        for (int j = 0; j <= 10; j++) {
+            Due.is("candidate(0, " + j + ")", x.candidate(0, j) & 255, 220 - 20 * j);
+        }
+        Due.is("candidate(0, 11)", x.candidate(0, 11), -1);
+    }
+
+    private static void foundHasAPlace() {
+        Due.shows("Promise 14", "The j-th holder (from 0) that p's lookup has found; -1 when p is"
+                + " not up, it has no lookup, or it has not found so many");
+        Net x = new Net();
+        x.join(0, -1);
+        int[] announcers = {3, 2, 1};
+        for (int p : announcers) {
+            Steps.joinAndFind(x, p, 0);
+            Steps.announceTo(x, 0, p, 0);
+        }
+        Due.is("no lookup: found(0, 0)", x.found(0, 0), -1);
+        x.begin(2, 0, 0);
+        Steps.deliverAll(x);
+        Due.is("a FIND finds none: found(2, 0)", x.found(2, 0), -1);
+        x.begin(2, 1, 1);
+        Steps.deliverAll(x);
+        Due.is("nothing for that key: found(2, 0)", x.found(2, 0), -1);
+        x.begin(2, 1, 0);
+        Due.is("not answered yet: found(2, 0)", x.found(2, 0), -1);
+        Steps.deliverAll(x);
+        Due.is("found(2, -1)", x.found(2, -1), -1);
+        Due.is("found(2, 0)", x.found(2, 0), 3);
+        Due.is("found(2, 1), itself", x.found(2, 1), 2);
+        Due.is("found(2, 2)", x.found(2, 2), 1);
+        Due.is("found(2, 3)", x.found(2, 3), -1);
+        Due.is("found(-1, 0)", x.found(-1, 0), -1);
+        Due.is("found(5, 0)", x.found(5, 0), -1);
+        Due.is("found(256, 0)", x.found(256, 0), -1);
+        x.leave(2);
+        Due.is("left: found(2, 0)", x.found(2, 0), -1);
+    }
+
+    private static void foundOnce() {
+        Due.shows("Promise 14", "each holder of the datagram, in order, that has not been found"
+                + " by this lookup is added at the end of what it has found");
+        Net x = new Net();
+        x.join(0, -1);
+        for (int p = 1; p <= 5; p++) {
+            Steps.joinAndFind(x, p, 0);
+        }
+        // Which host has which holders; a host closer to the key 0 is asked earlier.
+        int[][] stores = {
+            {0, 3}, {0, 4}, {0, 5}, {1, 3}, {1, 2}, {1, 5}, {2, 4}, {2, 0}, {2, 1},
+        };
+        for (int i = 0; i < stores.length; i++) {
+            Steps.announceTo(x, stores[i][0], stores[i][1], 0);
+            Due.is("holder of " + stores[i][0], x.entry(stores[i][0], i % 3) >> 8 & 255,
+                    stores[i][1]);
+        }
+        x.begin(5, 1, 0);
+        Due.is("the first to be asked", x.datagram(0, 2), 0);
+        Due.is("the second to be asked", x.datagram(1, 2), 1);
+        Steps.deliverAll(x);
+        Steps.areFound("each once", x, 5, 3, 4, 5, 2, 0, 1);
+    }
+
+    /** What is sent is dropped, but for STOREs, which are delivered. */
+    private static void deliverStores(Net x) {
+        for (int i = x.waiting(); i > 0; i--) {
+            if (x.datagram(0, 0) == 3) {
+                x.deliver(0);
+            } else {
+                x.drop(0);
+            }
+        }
+    }
+
+    private static void twelveFound() {
+        Due.shows("Promise 14", "At most twelve different numbers may ever join",
+                "all may be found");
+        // Each announces itself to the one that it joined for; others are not reached.
+        int[][] hosts = {
+            {20, 60}, {80, 20}, {60, 80}, {40, 80}, {120, 80}, {100, 20}, {110, 20}, {130, 40},
+            {140, 40}, {150, 40}, {160, 60}, {170, 60},
+        };
+        Net x = new Net();
+        x.join(60, -1);
+        for (int[] row : hosts) {
+            x.leave(row[0]);
+            x.join(row[0], row[1]);
+        }
+        Steps.silentTicks(x, 4);
+        for (int[] row : hosts) {
+            x.begin(row[0], 2, 0);
+        }
+        for (int i = 0; i < 24; i++) {
+            x.deliver(0);
+        }
+        for (int i = 0; i < 13; i++) {
+            deliverStores(x);
+            x.tick();
+        }
+        x.leave(100);
+        x.join(100, 80);
+        Steps.silentTicks(x, 4);
+        x.begin(100, 1, 0);
+        Steps.deliverAll(x);
+        int[] order = {80, 20, 40, 60};
+        int sum = 0;
+        for (int j = 0; j < 12; j++) {
+            int holder = x.entry(order[j / 3], j % 3) >> 8 & 255;
+            Due.is("found(100, " + j + ")", x.found(100, j), holder);
+            sum += holder;
+        }
+        Due.is("found(100, 12)", x.found(100, 12), -1);
+        Due.is("each of the twelve: their sum", sum, 1280);
+    }
+
+    private static void noOtherContactComesIn() {
+        Due.shows("Promise 13", "its candidates are the three contacts of p's table closest to"
+                + " the target", "no other contact comes in");
         Net x = new Net();
         x.join(0, -1);
         int[] guests = {1, 2, 200, 4, 210};
@@ -120,92 +641,8 @@ public final class LookupsTest {
         Due.is("no others come in: lookup(0)", x.lookup(0), 2);
     }
 
-    private static void beginForgetsTheOneBefore() {
-        Net x = small();
-        x.begin(0, 2, 5);
-        Steps.deliverAll(x);
-        x.begin(0, 1, 5);
-        Steps.deliverAll(x);
-        Steps.areFound("before", x, 0, 0);
-        x.leave(0);
-        x.join(0, 4);
-        Steps.dropAll(x);
-        Steps.areCandidates("anew", x, 0, 4 + ASKED);
-        Steps.areFound("anew", x, 0);
-        Steps.silentTicks(x, 4);
-        x.begin(0, 1, 5);
-        Steps.deliverAll(x);
-        Steps.areFound("found anew", x, 0, 0);
-        x.begin(0, 0, 5);
-        Steps.areFound("forgotten", x, 0);
-    }
-
-    private static void beginTouches() {
-        Net x = new Net();
-        x.join(0, -1);
-        int[] guests = {1, 2, 200, 4};
-        for (int guest : guests) {
-            Steps.see(x, 0, guest);
-        }
-        Steps.ticks(x, 2);
-        x.begin(0, 0, 128);
-        Due.is("touched: bucket(0, 0)", x.bucket(0, 0), 256 * 3 + 1024 * 2);
-        Due.is("touched: bucket(0, 1)", x.bucket(0, 1), 128 + 256);
-        Steps.silentTicks(x, 8);
-        Due.is("touched: lookup(0)", x.lookup(0), 2);
-        x.begin(0, 0, 127);
-        Due.is("touched: bucket(0, 0)", x.bucket(0, 0), 256 * 3);
-        Due.is("touched: bucket(0, 1)", x.bucket(0, 1), 128 + 256 + 1024 * 8);
-    }
-
-    private static void farCandidatesStayNew() {
-        Net x = small();
-        x.begin(0, 0, 5);
-        Steps.areCandidates("far", x, 0, 4 + ASKED, 1 + ASKED, 2);
-        x.deliver(0);
-        x.deliver(1);
-        Steps.areCandidates("far, closer ones told", x, 0,
-                5 + ASKED, 4 + ANSWERED, 7, 1 + ASKED, 2);
-        Steps.deliverAll(x);
-        Steps.areCandidates("far, ended", x, 0,
-                5 + ANSWERED, 4 + ANSWERED, 7 + ANSWERED, 1 + ANSWERED, 2);
-        Due.is("far: lookup(0)", x.lookup(0), 2);
-        Due.is("far: no STORE for a FIND", x.waiting(), 0);
-    }
-
-    private static void pushedOutCandidateIsWaitedFor() {
-        Net x = small();
-        x.begin(0, 0, 5);
-        x.drop(1);
-        Steps.deliverAll(x);
-        Steps.areCandidates("pushed out", x, 0,
-                5 + ANSWERED, 4 + ANSWERED, 7 + ANSWERED, 1 + ASKED, 2);
-        Due.is("pushed out: lookup(0)", x.lookup(0), 1);
-        Steps.ticks(x, 3);
-        Due.is("pushed out, three ticks: lookup(0)", x.lookup(0), 1);
-        Due.is("pushed out: tick()", x.tick(), 1);
-        Steps.areCandidates("pushed out, failed", x, 0,
-                5 + ANSWERED, 4 + ANSWERED, 7 + ANSWERED, 1 + FAILED, 2);
-        Due.is("pushed out, failed: lookup(0)", x.lookup(0), 2);
-    }
-
-    private static void announceStores() {
-        Net x = small();
-        x.begin(0, 2, 5);
-        for (int i = 0; i < 7; i++) {
-            Due.is("announce: no STORE yet", x.datagram(0, 0) < 3, true);
-            x.deliver(0);
-        }
-        Due.is("announce: running", x.lookup(0), 1);
-        x.deliver(0);
-        Due.is("announce: ended", x.lookup(0), 2);
-        Due.is("announce: waiting()", x.waiting(), 3);
-        Steps.isDatagram("announce", x, 0, 3, 0, 5, 6, 5, 35670);
-        Steps.isDatagram("announce", x, 1, 3, 0, 4, 6, 5, 60363);
-        Steps.isDatagram("announce", x, 2, 3, 0, 7, 6, 5, 49453);
-    }
-
-    private static void announceSkipsFailed() {
+    private static void storesPassOverTheFailed() {
+        Due.shows("Promise 4", "the first three candidates that are not FAILED");
         Net x = small();
         x.leave(5);
         x.leave(7);
@@ -221,209 +658,5 @@ public final class LookupsTest {
         Due.is("skip: the first STORE", x.datagram(0, 2), 4);
         Due.is("skip: the second STORE", x.datagram(1, 2), 1);
         Due.is("skip: the third STORE", x.datagram(2, 2), 2);
-    }
-
-    private static void lateAnswersAreNotTaken() {
-        Net x = small();
-        x.begin(0, 0, 5);
-        x.deliver(0);
-        Steps.ticks(x, 4);
-        Steps.areCandidates("late", x, 0, 4 + FAILED, 1 + FAILED, 2 + ASKED);
-        x.deliver(1);
-        Steps.areCandidates("late, told", x, 0, 4 + FAILED, 1 + FAILED, 2 + ASKED);
-        Due.is("late: still seen, its misses gone", x.contact(0, 0, 2), 4);
-        x.deliver(1);
-        x.deliver(1);
-        Due.is("late: lookup(0)", x.lookup(0), 2);
-        x.begin(0, 0, 5);
-        x.deliver(0);
-        x.deliver(0);
-        Steps.areCandidates("answer to the lookup before", x, 0, 4 + ASKED, 1 + ASKED, 2);
-    }
-
-    private static void refreshWithoutContacts() {
-        Net x = new Net();
-        Steps.ticks(x, 290);
-        x.join(9, -1);
-        Steps.ticks(x, 15);
-        Due.is("15 ticks ago: refresh(9)", x.refresh(9), -1);
-        Due.is("15 ticks ago: lookup(9)", x.lookup(9), 0);
-        x.tick();
-        Due.is("16 ticks ago: refresh(9)", x.refresh(9), 306 - 256);
-        Due.is("16 ticks ago: lookup(9)", x.lookup(9), 2);
-        Due.is("16 ticks ago: bucket(9, 0)", x.bucket(9, 0), 0);
-        Due.is("touched now: refresh(9)", x.refresh(9), -1);
-        x.join(8, 9);
-        Due.is("refresh takes one serial, when not refused", x.datagram(0, 3), 2);
-    }
-
-    private static void refreshTakesTheFirstStaleBucket() {
-        Net x = new Net();
-        x.join(16, -1);
-        int[] guests = {17, 18, 20, 24};
-        for (int guest : guests) {
-            Steps.see(x, 16, guest);
-        }
-        Due.is("stale: buckets(16)", x.buckets(16), 6);
-        Steps.silentTicks(x, 20);
-        Due.is("stale: refresh(16)", x.refresh(16), 20 % 16);
-        Due.is("stale: serial", x.datagram(0, 3), 5);
-        Due.is("stale: kind", x.datagram(0, 0), 0);
-        Due.is("stale: target", x.datagram(0, 4), 4);
-        Due.is("stale: bucket(16, 0)", x.bucket(16, 0), 0);
-        Due.is("running: refresh(16)", x.refresh(16), -1);
-        Steps.silentTicks(x, 8);
-        Due.is("stale: lookup(16)", x.lookup(16), 2);
-        Due.is("next: refresh(16)", x.refresh(16), 16 + 28 % 8);
-        Steps.silentTicks(x, 8);
-        Due.is("the first again: refresh(16)", x.refresh(16), 36 % 16);
-        Steps.silentTicks(x, 8);
-        Due.is("the second again: refresh(16)", x.refresh(16), 16 + 44 % 8);
-        Steps.silentTicks(x, 8);
-        int[] targets = {0, 16, 24};
-        for (int target : targets) {
-            x.begin(16, 0, target);
-            Steps.deliverAll(x);
-        }
-        Due.is("the fourth: refresh(16)", x.refresh(16), 32 + 52 % 32);
-    }
-
-    private static void refreshIsRefused() {
-        Net x = new Net();
-        x.join(1, -1);
-        x.leave(1);
-        Steps.ticks(x, 30);
-        int[] wrong = {-1, 1, 2, 256, Integer.MIN_VALUE, Integer.MAX_VALUE};
-        for (int p : wrong) {
-            Due.is("refresh(" + p + ")", x.refresh(p), -1);
-        }
-        Due.is("refused: waiting()", x.waiting(), 0);
-    }
-
-    private static void tickFailsTheSilent() {
-        Net x = small();
-        x.begin(0, 0, 5);
-        x.tick();
-        x.deliver(0);
-        x.deliver(1);
-        Steps.areCandidates("silent", x, 0, 5 + ASKED, 4 + ANSWERED, 7, 1 + ASKED, 2);
-        Due.is("second tick", x.tick(), 0);
-        Due.is("third tick", x.tick(), 0);
-        Due.is("fourth tick: 1 alone was asked 4 ago", x.tick(), 1);
-        Steps.areCandidates("fourth tick", x, 0, 5 + ASKED, 4 + ANSWERED, 7 + ASKED,
-                1 + FAILED, 2);
-        Due.is("fifth tick: now 5 too", x.tick(), 1);
-        Steps.areCandidates("fifth tick", x, 0, 5 + FAILED, 4 + ANSWERED, 7 + ASKED,
-                1 + FAILED, 2 + ASKED);
-        Steps.areContacts("one miss", x, 0, 0, 1 + 256, 2, 4);
-        Steps.ticks(x, 2);
-        Due.is("eighth tick", x.tick(), 1);
-        Due.is("ninth tick", x.tick(), 1);
-        Due.is("all others failed: lookup(0)", x.lookup(0), 2);
-        Steps.areContacts("two have missed", x, 0, 0, 1 + 256, 2 + 256, 4);
-        Due.is("tenth tick", x.tick(), 0);
-    }
-
-    private static void tickGoesByNumber() {
-        Net x = new Net();
-        x.join(50, -1);
-        int[] guests = {60, 70, 80};
-        for (int guest : guests) {
-            Steps.see(x, 50, guest);
-        }
-        // 90 and then 30, which is the lesser number, hear of all from 50.
-        x.join(90, 50);
-        Steps.deliverAll(x);
-        x.join(30, 50);
-        Steps.deliverAll(x);
-        Steps.silentTicks(x, 16);
-        x.begin(90, 0, 90);
-        x.begin(50, 0, 50);
-        x.begin(30, 0, 30);
-        Steps.dropAll(x);
-        Due.is("by number: three ticks", x.tick() + x.tick() + x.tick(), 0);
-        Due.is("by number: tick()", x.tick(), 6);
-        int[] senders = {30, 50, 90};
-        Due.is("by number: waiting()", x.waiting(), 3);
-        for (int k = 0; k < 3; k++) {
-            Due.is("by number: sender " + k, x.datagram(k, 1), senders[k]);
-        }
-    }
-
-    private static void tickMissesOnlyContacts() {
-        Net x = small();
-        x.leave(5);
-        x.begin(0, 0, 5);
-        Steps.deliverAll(x);
-        Due.is("no contact: candidate(0, 0)", x.candidate(0, 0), 5 + ASKED);
-        Steps.ticks(x, 4);
-        Due.is("no contact: candidate(0, 0)", x.candidate(0, 0), 5 + FAILED);
-        Due.is("no contact: closest(0, 5, 0)", x.closest(0, 5, 0), 4);
-        Due.is("no contact: closest(0, 5, 1)", x.closest(0, 5, 1), 7);
-        Due.is("no contact: closest(0, 5, 2)", x.closest(0, 5, 2), 1);
-    }
-
-    private static void tickLeavesOutWhoLeft() {
-        Net x = small();
-        x.begin(0, 0, 5);
-        x.begin(4, 0, 5);
-        Steps.dropAll(x);
-        x.leave(0);
-        Due.is("left: three ticks", x.tick() + x.tick() + x.tick(), 0);
-        Due.is("left: 4 alone waits in vain", x.tick(), 2);
-        Due.is("left: waiting()", x.waiting(), 1);
-        Due.is("left: sender", x.datagram(0, 1), 4);
-    }
-
-    private static void candidateNeedsAPlace() {
-        Net x = small();
-        Due.is("no lookup: candidate(0, 0)", x.candidate(0, 0), -1);
-        x.begin(0, 0, 5);
-        int[] wrong = {-1, 3, 12, 256, Integer.MIN_VALUE, Integer.MAX_VALUE};
-        for (int j : wrong) {
-            Due.is("candidate(0, " + j + ")", x.candidate(0, j), -1);
-        }
-        int[] wrongPeers = {-1, 3, 256, Integer.MIN_VALUE, Integer.MAX_VALUE};
-        for (int p : wrongPeers) {
-            Due.is("candidate(" + p + ", 0)", x.candidate(p, 0), -1);
-        }
-        x.leave(0);
-        Due.is("left: candidate(0, 0)", x.candidate(0, 0), -1);
-    }
-
-    private static void foundKeepsOrder() {
-        Net x = new Net();
-        x.join(0, -1);
-        // 3 announces at 0 alone, 2 at both others, 1 at 0: 0 keeps 3, 2, 1.
-        int[] announcers = {3, 2, 1};
-        for (int p : announcers) {
-            x.join(p, 0);
-            Steps.deliverAll(x);
-            x.begin(p, 2, 100);
-            Steps.deliverAll(x);
-        }
-        Due.is("kept: entry(0, 0)", x.entry(0, 0), 100 + 256 * 3 + 65536 * 24);
-        Due.is("kept: entry(0, 1)", x.entry(0, 1), 100 + 256 * 2 + 65536 * 24);
-        Due.is("kept: entry(0, 2)", x.entry(0, 2), 100 + 256 + 65536 * 24);
-        x.join(4, 0);
-        Steps.deliverAll(x);
-        Due.is("FIND tells no holders: found(4, 0)", x.found(4, 0), -1);
-        Due.is("no lookup: found(0, 0)", x.found(0, 0), -1);
-        x.begin(4, 1, 100);
-        Steps.deliverAll(x);
-        Steps.areFound("found", x, 4, 3, 2, 1);
-        int[] wrong = {-1, 3, 12, Integer.MIN_VALUE, Integer.MAX_VALUE};
-        for (int j : wrong) {
-            Due.is("found(4, " + j + ")", x.found(4, j), -1);
-        }
-        int[] wrongPeers = {-1, 5, 256, Integer.MIN_VALUE, Integer.MAX_VALUE};
-        for (int p : wrongPeers) {
-            Due.is("found(" + p + ", 0)", x.found(p, 0), -1);
-        }
-        x.begin(4, 1, 101);
-        Steps.deliverAll(x);
-        Steps.areFound("another key", x, 4);
-        x.leave(4);
-        Due.is("left: found(4, 0)", x.found(4, 0), -1);
     }
 }

@@ -3,13 +3,14 @@ import java.util.Random;
 /** Long runs of chosen calls: the class has to answer each as the model does. */
 public final class ModelTest {
     private static final int RUNS = 4000;
-    private static final int CALLS = 511;
+    private static final int CALLS = Net.CALLS;
     private static final int[] ODD = {-1, 256, 3, 24, Integer.MIN_VALUE, Integer.MAX_VALUE};
 
     private final Random random;
     private final XorOverlay real = new XorOverlay();
     private final Model model = new Model();
     private final int[] numbers = new int[13];
+    private final int deliveries;
     private final int ticks;
     private final int drops;
     private final int comings;
@@ -25,6 +26,7 @@ public final class ModelTest {
             numbers[i] = base ^ random.nextInt(spread);
         }
         // Runs differ in how fast time goes, how much is lost and how often peers change.
+        deliveries = 2 + random.nextInt(30);
         ticks = 1 + random.nextInt(12);
         drops = random.nextInt(4);
         comings = 1 + random.nextInt(8);
@@ -52,22 +54,22 @@ public final class ModelTest {
     }
 
     private void change() {
-        int pick = random.nextInt(30 + ticks + drops + comings);
-        if (pick < 22) {
+        int pick = random.nextInt(8 + deliveries + ticks + drops + comings) - deliveries;
+        if (pick < 0) {
             int k = place(model.waiting());
             told("deliver(" + k + ")", real.deliver(k), model.deliver(k));
-        } else if (pick < 28) {
+        } else if (pick < 6) {
             int p = peer();
             int kind = random.nextInt(40) == 0 ? odd() : random.nextInt(3);
             int target = number();
             told("begin(" + p + ", " + kind + ", " + target + ")",
                     bit(real.begin(p, kind, target)), bit(model.begin(p, kind, target)));
-        } else if (pick < 30) {
+        } else if (pick < 8) {
             int p = peer();
             told("refresh(" + p + ")", real.refresh(p), model.refresh(p));
-        } else if (pick < 30 + ticks) {
+        } else if (pick < 8 + ticks) {
             told("tick()", real.tick(), model.tick());
-        } else if (pick < 30 + ticks + drops) {
+        } else if (pick < 8 + ticks + drops) {
             int k = place(model.waiting());
             told("drop(" + k + ")", bit(real.drop(k)), bit(model.drop(k)));
         } else if (random.nextInt(4) > 0) {

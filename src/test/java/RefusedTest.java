@@ -2,10 +2,9 @@
 public final class RefusedTest {
     private static final int LEAST = Integer.MIN_VALUE;
     private static final int MOST = Integer.MAX_VALUE;
-    private static final int[] NO_NUMBERS = {-1, 256, 266, -246, LEAST, MOST};
+    private static final int[] NO_NUMBERS = {-1, 256, 257, -255, LEAST, MOST};
 
     private static final Scene EMPTY = new Scene(x -> { });
-    private static final Scene RUNNING = new Scene(RefusedTest::running);
     private static final Scene BUSY = new Scene(RefusedTest::busy);
     private static final Scene STALE = new Scene(RefusedTest::stale);
     private static final Scene FULL_LINE = new Scene(RefusedTest::fullLine);
@@ -15,6 +14,7 @@ public final class RefusedTest {
     }
 
     public static void main(String[] args) {
+        scenesAreAsTold();
         joinOfNoNumber();
         joinOfOneThatIsUp();
         joinOfTheThirteenth();
@@ -41,19 +41,9 @@ public final class RefusedTest {
         Due.end();
     }
 
-    /** 10 and 20 are up, 30 has left; 20 looks for itself, and its FIND to 10 waits alone. */
-    private static void running(Net x) {
-        x.join(10, -1);
-        x.join(30, 10);
-        x.drop(0);
-        x.leave(30);
-        x.join(20, 10);
-        x.tick();
-    }
-
     /**
-     * 100, 1 and 200 are up, 2 has left. 100 and 200 hold entries, the GET of 1 has ended and
-     * has found three, 200 looks for 5, and its two FINDs wait.
+     * 1, 100 and 200 are up, 2 has left; each holds entries. 100 has no lookup, the GET of 1 has
+     * ended and has found three, 200 looks for 5, and its two FINDs wait.
      */
     private static void busy(Net x) {
         x.join(100, -1);
@@ -67,33 +57,58 @@ public final class RefusedTest {
         Steps.deliverAll(x);
         x.begin(200, 0, 5);
         x.leave(2);
+        x.tick();
     }
 
-    /** 128 has a bucket touched 20 ticks ago, but its lookup runs; 50 joined 15 ticks ago. */
+    /** Beside that, 100 has a bucket touched 17 ticks ago, but looks for 0; 50 is up for 15. */
     private static void stale(Net x) {
-        x.join(128, -1);
-        int[] guests = {1, 2, 200, 3};
-        for (int guest : guests) {
-            Steps.see(x, 128, guest);
-        }
-        Steps.ticks(x, 5);
+        busy(x);
+        Steps.dropAll(x);
+        Steps.see(x, 100, 3);
+        x.tick();
         x.join(50, -1);
-        Steps.ticks(x, 15);
-        x.begin(128, 0, 0);
+        Steps.silentTicks(x, 15);
+        x.begin(100, 0, 0);
     }
 
-    /** 24 FINDs of 20 to 10 wait. */
+    /** Beside that, 22 FINDs of 30 to 100 wait. */
     private static void fullLine(Net x) {
-        x.join(10, -1);
-        Steps.crowd(x, 10, 20, 24);
+        busy(x);
+        Steps.crowd(x, 100, 30, 24);
     }
 
-    /** 10, 20, .. 120 have joined, and 20 has left. */
+    /** Beside that, 10, 20, .. 80 have joined. */
     private static void twelve(Net x) {
-        for (int p = 10; p <= 120; p += 10) {
-            x.join(p, p == 10 ? -1 : 10);
+        busy(x);
+        for (int p = 10; p <= 80; p += 10) {
+            x.join(p, 100);
         }
-        x.leave(20);
+    }
+
+    private static void scenesAreAsTold() {
+        Due.shows("Promise 12", "0 when it has no lookup, 1 when its lookup is running, 2 when it"
+                + " has ended");
+        Net x = BUSY.made();
+        Due.is("BUSY: lookup(1)", x.lookup(1), 2);
+        Due.is("BUSY: lookup(2)", x.lookup(2), -1);
+        Due.is("BUSY: lookup(100)", x.lookup(100), 0);
+        Due.is("BUSY: lookup(200)", x.lookup(200), 1);
+        Due.is("BUSY: waiting()", x.waiting(), 2);
+        Due.is("BUSY: clock()", x.clock(), 4);
+        Steps.areFound("BUSY", x, 1, 1, 2, 200);
+        Due.is("BUSY: entries of 1", x.entry(1, 0) & 65535, 100 + 256 * 2);
+        Due.is("BUSY: entries of 100", x.entry(100, 2) & 65535, 100 + 256 * 200);
+        Due.is("BUSY: no more of 100", x.entry(100, 3), -1);
+        Due.is("BUSY: bucket(1, 0)", x.bucket(1, 0), 256 * 3 + 1024);
+        Net y = STALE.made();
+        Due.is("STALE: lookup(100)", y.lookup(100), 1);
+        Due.is("STALE: bucket(100, 1)", y.bucket(100, 1), 128 + 256 + 1024 * 17);
+        Due.is("STALE: bucket(50, 0)", y.bucket(50, 0), 1024 * 15);
+        Due.is("STALE: buckets(100)", y.buckets(100), 2);
+        Due.is("FULL_LINE: waiting()", FULL_LINE.made().waiting(), 24);
+        Net z = TWELVE.made();
+        Due.is("TWELVE: lookup(80)", z.lookup(80), 1);
+        Due.is("TWELVE: join(2, -1)", z.join(2, -1), true);
     }
 
     private static int bit(boolean answer) {
@@ -117,99 +132,102 @@ public final class RefusedTest {
         Due.shows("Promise 2", "false, refused, when p is no number");
         for (int p : NO_NUMBERS) {
             refusesJoin(EMPTY, p, -1);
-            refusesJoin(RUNNING, p, -1);
-            refusesJoin(RUNNING, p, 10);
-            refusesJoin(FULL_LINE, p, 10);
+            refusesJoin(BUSY, p, -1);
+            refusesJoin(BUSY, p, 100);
+            refusesJoin(FULL_LINE, p, 100);
         }
     }
 
     private static void joinOfOneThatIsUp() {
-        Due.shows("Promise 2", "refused, when p .. is up");
-        int[] vias = {-1, 10, 20};
-        for (int via : vias) {
-            refusesJoin(RUNNING, 10, via);
-            refusesJoin(RUNNING, 20, via);
-            refusesJoin(FULL_LINE, 20, via);
+        Due.shows("Promise 2", "false, refused, when p is no number, is up");
+        int[] up = {1, 100, 200};
+        for (int p : up) {
+            refusesJoin(BUSY, p, -1);
+            refusesJoin(BUSY, p, 100);
+            refusesJoin(BUSY, p, 200);
+            refusesJoin(FULL_LINE, p, 30);
+            refusesJoin(TWELVE, p, 80);
         }
-        refusesJoin(BUSY, 1, -1);
-        refusesJoin(BUSY, 100, 200);
-        refusesJoin(TWELVE, 30, 10);
     }
 
     private static void joinOfTheThirteenth() {
-        Due.shows("Promise 2", "refused, when p .. would be the thirteenth number ever to join");
-        int[] others = {0, 1, 121, 255};
+        Due.shows("Promise 2", "or would be the thirteenth number ever to join");
+        int[] others = {0, 3, 101, 255};
         for (int p : others) {
             refusesJoin(TWELVE, p, -1);
-            refusesJoin(TWELVE, p, 120);
+            refusesJoin(TWELVE, p, 100);
         }
     }
 
     private static void joinViaNobody() {
-        Due.shows("Promise 2", "refused .. when via is neither -1 nor a peer that is up"
-                + " (so p itself is none)");
-        int[] vias = {-2, 256, 266, -246, LEAST, MOST, 0, 5, 30, 255};
+        Due.shows("Promise 2", "or when via is neither -1 nor a peer that is up (so p itself is"
+                + " none)");
+        int[] vias = {-2, 256, 257, -255, LEAST, MOST, 0, 2, 5, 255};
         for (int via : vias) {
-            refusesJoin(RUNNING, 5, via);
-            refusesJoin(RUNNING, 30, via);
+            refusesJoin(BUSY, 5, via);
+            refusesJoin(BUSY, 2, via);
         }
         refusesJoin(EMPTY, 0, 0);
         refusesJoin(EMPTY, 0, 1);
-        refusesJoin(BUSY, 2, 2);
-        refusesJoin(TWELVE, 20, 20);
-        refusesJoin(TWELVE, 20, 1);
+        refusesJoin(TWELVE, 2, 2);
+        refusesJoin(TWELVE, 2, 3);
     }
 
     private static void leaveOfOneThatIsNotUp() {
         Due.shows("Promise 3", "false when it is not up");
         for (int p : NO_NUMBERS) {
-            EMPTY.refuses("leave(" + p + ")", 0, x -> bit(x.leave(p)));
-            RUNNING.refuses("leave(" + p + ")", 0, x -> bit(x.leave(p)));
+            refusesLeave(EMPTY, p);
+            refusesLeave(BUSY, p);
         }
-        int[] numbers = {0, 5, 30, 255};
+        int[] numbers = {0, 2, 5, 255};
         for (int p : numbers) {
-            RUNNING.refuses("leave(" + p + ")", 0, x -> bit(x.leave(p)));
+            refusesLeave(EMPTY, p);
+            refusesLeave(BUSY, p);
         }
-        TWELVE.refuses("leave(20)", 0, x -> bit(x.leave(20)));
-        BUSY.refuses("leave(2)", 0, x -> bit(x.leave(2)));
+        refusesLeave(TWELVE, 2);
+    }
+
+    private static void refusesLeave(Scene scene, int p) {
+        scene.refuses("leave(" + p + ")", 0, x -> bit(x.leave(p)));
     }
 
     private static void beginOfOneThatIsNotUp() {
         Due.shows("Promise 4", "false, refused, when p is not up");
         for (int p : NO_NUMBERS) {
-            refusesBegin(RUNNING, p, 0, 10);
+            refusesBegin(BUSY, p, 0, 10);
         }
         for (int kind = 0; kind <= 2; kind++) {
             refusesBegin(EMPTY, 0, kind, 0);
-            refusesBegin(RUNNING, 30, kind, 30);
+            refusesBegin(BUSY, 5, kind, 100);
             refusesBegin(BUSY, 2, kind, 100);
         }
     }
 
     private static void beginWhileRunning() {
-        Due.shows("Promise 4", "refused, when .. its lookup is running");
+        Due.shows("Promise 4", "false, refused, when p is not up, its lookup is running");
         for (int kind = 0; kind <= 2; kind++) {
-            refusesBegin(RUNNING, 20, kind, 20);
             refusesBegin(BUSY, 200, kind, 100);
-            refusesBegin(FULL_LINE, 20, kind, 0);
+            refusesBegin(STALE, 100, kind, 255);
+            refusesBegin(FULL_LINE, 30, kind, 0);
         }
     }
 
     private static void beginOfNoKind() {
-        Due.shows("Promise 4", "refused, when .. the kind is none of these");
+        Due.shows("Promise 4", "the kind is none of these");
         int[] kinds = {-1, 3, 4, 256, LEAST, MOST};
         for (int kind : kinds) {
-            refusesBegin(RUNNING, 10, kind, 20);
             refusesBegin(BUSY, 1, kind, 100);
+            refusesBegin(BUSY, 100, kind, 0);
         }
     }
 
     private static void beginForNoNumber() {
-        Due.shows("Promise 4", "refused, when .. the target is no number");
+        Due.shows("Promise 4", "or the target is no number");
         for (int target : NO_NUMBERS) {
-            refusesBegin(RUNNING, 10, 0, target);
-            refusesBegin(BUSY, 1, 1, target);
-            refusesBegin(BUSY, 100, 2, target);
+            for (int kind = 0; kind <= 2; kind++) {
+                refusesBegin(BUSY, 1, kind, target);
+                refusesBegin(BUSY, 100, kind, target);
+            }
         }
     }
 
@@ -219,33 +237,35 @@ public final class RefusedTest {
             refusesRefresh(STALE, p);
         }
         refusesRefresh(EMPTY, 0);
-        refusesRefresh(RUNNING, 30);
         refusesRefresh(STALE, 0);
+        refusesRefresh(STALE, 2);
     }
 
     private static void refreshWhileRunning() {
         Due.shows("Promise 5", "its lookup is not running .. otherwise -1, refused");
-        refusesRefresh(STALE, 128);
+        refusesRefresh(STALE, 100);
     }
 
     private static void refreshTooSoon() {
-        Due.shows("Promise 5", "some bucket of its table was touched 16 or more ticks ago");
+        Due.shows("Promise 5", "some bucket of its table was touched 16 or more ticks ago .."
+                + " otherwise -1, refused");
         refusesRefresh(STALE, 50);
-        refusesRefresh(RUNNING, 10);
+        refusesRefresh(BUSY, 1);
         refusesRefresh(BUSY, 100);
     }
 
     private static void datagramOfNone() {
         Due.shows("Promise 9", "-1 when there is no such datagram or what is not 0 .. 11");
-        int[] places = {-1, -12, 1, 2, 23, 24, LEAST, MOST};
+        int[] places = {-1, -12, 2, 3, 23, 24, LEAST, MOST};
         for (int k : places) {
-            RUNNING.refuses("datagram(" + k + ", 0)", -1, x -> x.datagram(k, 0));
             EMPTY.refuses("datagram(" + k + ", 3)", -1, x -> x.datagram(k, 3));
+            BUSY.refuses("datagram(" + k + ", 0)", -1, x -> x.datagram(k, 0));
         }
         FULL_LINE.refuses("datagram(24, 0)", -1, x -> x.datagram(24, 0));
         FULL_LINE.refuses("datagram(-1, 0)", -1, x -> x.datagram(-1, 0));
         int[] whats = {-1, -12, 12, 13, 24, LEAST, MOST};
         for (int what : whats) {
+            BUSY.refuses("datagram(0, " + what + ")", -1, x -> x.datagram(0, what));
             FULL_LINE.refuses("datagram(1, " + what + ")", -1, x -> x.datagram(1, what));
             FULL_LINE.refuses("datagram(24, " + what + ")", -1, x -> x.datagram(24, what));
         }
@@ -253,50 +273,50 @@ public final class RefusedTest {
 
     private static void deliverOfNone() {
         Due.shows("Promise 10", "-1, refused, when there is no such datagram");
-        int[] places = {-1, 1, 2, 23, 24, LEAST, MOST};
+        int[] places = {-1, 2, 3, 23, 24, LEAST, MOST};
         for (int k : places) {
-            RUNNING.refuses("deliver(" + k + ")", -1, x -> x.deliver(k));
+            EMPTY.refuses("deliver(" + k + ")", -1, x -> x.deliver(k));
+            BUSY.refuses("deliver(" + k + ")", -1, x -> x.deliver(k));
         }
         EMPTY.refuses("deliver(0)", -1, x -> x.deliver(0));
         FULL_LINE.refuses("deliver(24)", -1, x -> x.deliver(24));
         FULL_LINE.refuses("deliver(-1)", -1, x -> x.deliver(-1));
-        BUSY.refuses("deliver(2)", -1, x -> x.deliver(2));
     }
 
     private static void dropOfNone() {
         Due.shows("Promise 11", "false when there is no such datagram");
-        int[] places = {-1, 1, 2, 23, 24, LEAST, MOST};
+        int[] places = {-1, 2, 3, 23, 24, LEAST, MOST};
         for (int k : places) {
-            RUNNING.refuses("drop(" + k + ")", 0, x -> bit(x.drop(k)));
+            EMPTY.refuses("drop(" + k + ")", 0, x -> bit(x.drop(k)));
+            BUSY.refuses("drop(" + k + ")", 0, x -> bit(x.drop(k)));
         }
         EMPTY.refuses("drop(0)", 0, x -> bit(x.drop(0)));
         FULL_LINE.refuses("drop(24)", 0, x -> bit(x.drop(24)));
         FULL_LINE.refuses("drop(-1)", 0, x -> bit(x.drop(-1)));
-        BUSY.refuses("drop(2)", 0, x -> bit(x.drop(2)));
     }
 
     private static void lookupOfNone() {
         Due.shows("Promise 12", "-1 when p is not up (or no peer)");
         for (int p : NO_NUMBERS) {
-            RUNNING.refuses("lookup(" + p + ")", -1, x -> x.lookup(p));
+            BUSY.refuses("lookup(" + p + ")", -1, x -> x.lookup(p));
         }
         EMPTY.refuses("lookup(0)", -1, x -> x.lookup(0));
-        RUNNING.refuses("lookup(5)", -1, x -> x.lookup(5));
-        RUNNING.refuses("lookup(30)", -1, x -> x.lookup(30));
+        BUSY.refuses("lookup(5)", -1, x -> x.lookup(5));
+        BUSY.refuses("lookup(2)", -1, x -> x.lookup(2));
     }
 
     private static void candidateOfNone() {
         Due.shows("Promise 13", "-1 when p is not up, it has no lookup, or there is no such"
                 + " candidate");
         for (int p : NO_NUMBERS) {
-            RUNNING.refuses("candidate(" + p + ", 0)", -1, x -> x.candidate(p, 0));
+            BUSY.refuses("candidate(" + p + ", 0)", -1, x -> x.candidate(p, 0));
         }
         EMPTY.refuses("candidate(0, 0)", -1, x -> x.candidate(0, 0));
-        RUNNING.refuses("candidate(30, 0)", -1, x -> x.candidate(30, 0));
-        RUNNING.refuses("candidate(10, 0)", -1, x -> x.candidate(10, 0));
-        int[] places = {-1, 1, 11, 12, LEAST, MOST};
+        BUSY.refuses("candidate(2, 0)", -1, x -> x.candidate(2, 0));
+        BUSY.refuses("candidate(100, 0)", -1, x -> x.candidate(100, 0));
+        int[] places = {-1, 3, 11, 12, LEAST, MOST};
         for (int j : places) {
-            RUNNING.refuses("candidate(20, " + j + ")", -1, x -> x.candidate(20, j));
+            BUSY.refuses("candidate(200, " + j + ")", -1, x -> x.candidate(200, j));
         }
     }
 
@@ -306,9 +326,10 @@ public final class RefusedTest {
         for (int p : NO_NUMBERS) {
             BUSY.refuses("found(" + p + ", 0)", -1, x -> x.found(p, 0));
         }
-        BUSY.refuses("found(2, 0)", -1, x -> x.found(2, 0));
-        BUSY.refuses("found(100, 0)", -1, x -> x.found(100, 0));
-        BUSY.refuses("found(200, 0)", -1, x -> x.found(200, 0));
+        int[] peers = {2, 100, 200};
+        for (int p : peers) {
+            BUSY.refuses("found(" + p + ", 0)", -1, x -> x.found(p, 0));
+        }
         int[] places = {-1, 3, 11, 12, LEAST, MOST};
         for (int j : places) {
             BUSY.refuses("found(1, " + j + ")", -1, x -> x.found(1, j));
@@ -318,53 +339,53 @@ public final class RefusedTest {
     private static void bucketsOfNone() {
         Due.shows("Promise 15", "-1 when p is not up");
         for (int p : NO_NUMBERS) {
-            RUNNING.refuses("buckets(" + p + ")", -1, x -> x.buckets(p));
+            BUSY.refuses("buckets(" + p + ")", -1, x -> x.buckets(p));
         }
-        RUNNING.refuses("buckets(30)", -1, x -> x.buckets(30));
-        RUNNING.refuses("buckets(5)", -1, x -> x.buckets(5));
+        BUSY.refuses("buckets(2)", -1, x -> x.buckets(2));
+        BUSY.refuses("buckets(5)", -1, x -> x.buckets(5));
     }
 
     private static void bucketOfNone() {
         Due.shows("Promise 16", "-1 when p is not up or there is no such bucket");
         for (int p : NO_NUMBERS) {
-            RUNNING.refuses("bucket(" + p + ", 0)", -1, x -> x.bucket(p, 0));
+            BUSY.refuses("bucket(" + p + ", 0)", -1, x -> x.bucket(p, 0));
         }
-        RUNNING.refuses("bucket(30, 0)", -1, x -> x.bucket(30, 0));
+        BUSY.refuses("bucket(2, 0)", -1, x -> x.bucket(2, 0));
         int[] places = {-1, 2, 8, 9, LEAST, MOST};
         for (int b : places) {
-            STALE.refuses("bucket(128, " + b + ")", -1, x -> x.bucket(128, b));
+            STALE.refuses("bucket(100, " + b + ")", -1, x -> x.bucket(100, b));
         }
+        BUSY.refuses("bucket(1, 1)", -1, x -> x.bucket(1, 1));
     }
 
     private static void contactOfNone() {
         Due.shows("Promise 17", "-1 when p is not up or there is no such bucket or contact");
         for (int p : NO_NUMBERS) {
-            RUNNING.refuses("contact(" + p + ", 0, 0)", -1, x -> x.contact(p, 0, 0));
+            BUSY.refuses("contact(" + p + ", 0, 0)", -1, x -> x.contact(p, 0, 0));
         }
-        RUNNING.refuses("contact(30, 0, 0)", -1, x -> x.contact(30, 0, 0));
-        RUNNING.refuses("contact(10, 0, 0)", -1, x -> x.contact(10, 0, 0));
+        BUSY.refuses("contact(2, 0, 0)", -1, x -> x.contact(2, 0, 0));
+        BUSY.refuses("contact(1, 0, 3)", -1, x -> x.contact(1, 0, 3));
+        BUSY.refuses("contact(1, 1, 0)", -1, x -> x.contact(1, 1, 0));
         int[] places = {-1, 2, 3, 8, 9, LEAST, MOST};
         for (int i : places) {
-            STALE.refuses("contact(128, " + i + ", 0)", -1, x -> x.contact(128, i, 0));
-            STALE.refuses("contact(128, 1, " + i + ")", -1, x -> x.contact(128, 1, i));
+            STALE.refuses("contact(100, " + i + ", 0)", -1, x -> x.contact(100, i, 0));
+            STALE.refuses("contact(100, 1, " + i + ")", -1, x -> x.contact(100, 1, i));
         }
-        STALE.refuses("contact(128, 0, 3)", -1, x -> x.contact(128, 0, 3));
     }
 
     private static void closestOfNone() {
         Due.shows("Promise 18", "-1 when p is not up, the target is no number, j is not 0 .. 2,"
                 + " or there are not so many contacts");
         for (int n : NO_NUMBERS) {
-            STALE.refuses("closest(" + n + ", 0, 0)", -1, x -> x.closest(n, 0, 0));
-            STALE.refuses("closest(128, " + n + ", 0)", -1, x -> x.closest(128, n, 0));
+            BUSY.refuses("closest(" + n + ", 0, 0)", -1, x -> x.closest(n, 0, 0));
+            BUSY.refuses("closest(1, " + n + ", 0)", -1, x -> x.closest(1, n, 0));
         }
         int[] places = {-1, 3, 4, LEAST, MOST};
         for (int j : places) {
-            STALE.refuses("closest(128, 0, " + j + ")", -1, x -> x.closest(128, 0, j));
+            STALE.refuses("closest(100, 0, " + j + ")", -1, x -> x.closest(100, 0, j));
         }
         STALE.refuses("closest(50, 0, 0)", -1, x -> x.closest(50, 0, 0));
-        STALE.refuses("closest(1, 0, 1)", -1, x -> x.closest(1, 0, 1));
-        RUNNING.refuses("closest(30, 0, 0)", -1, x -> x.closest(30, 0, 0));
+        BUSY.refuses("closest(2, 0, 0)", -1, x -> x.closest(2, 0, 0));
     }
 
     private static void entryOfNone() {
@@ -373,7 +394,7 @@ public final class RefusedTest {
             BUSY.refuses("entry(" + p + ", 0)", -1, x -> x.entry(p, 0));
         }
         BUSY.refuses("entry(2, 0)", -1, x -> x.entry(2, 0));
-        RUNNING.refuses("entry(10, 0)", -1, x -> x.entry(10, 0));
+        STALE.refuses("entry(50, 0)", -1, x -> x.entry(50, 0));
         int[] places = {-1, 3, 5, 6, LEAST, MOST};
         for (int j : places) {
             BUSY.refuses("entry(100, " + j + ")", -1, x -> x.entry(100, j));

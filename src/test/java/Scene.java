@@ -25,7 +25,8 @@ final class Scene {
 
     private final Run run;
     private final List<Integer> peers;
-    private final List<Look> looks;
+    /** Each kind of call in a list of its own. */
+    private final List<List<Look>> looks;
     private final List<Integer> seenAtOnce;
     private final List<Integer> seenLater;
 
@@ -40,10 +41,14 @@ final class Scene {
         });
     }
 
+    Net made() {
+        Net x = new Net();
+        run.on(x);
+        return x;
+    }
+
     void refuses(String name, int answer, Call call) {
-        Net net = new Net();
-        run.on(net);
-        Due.is(name, call.on(net), answer);
+        Due.is(name, call.on(made()), answer);
         isAlike(name + ", then", seenAtOnce, seen(x -> {
             run.on(x);
             call.on(x);
@@ -56,40 +61,57 @@ final class Scene {
     }
 
     private void isAlike(String name, List<Integer> without, List<Integer> with) {
-        for (int i = 0; i < looks.size(); i++) {
-            if (!without.get(i).equals(with.get(i))) {
-                Due.tell(name + " " + looks.get(i).name + " answered " + with.get(i)
-                        + ", without that call " + without.get(i));
-                return;
+        int i = 0;
+        for (List<Look> kind : looks) {
+            for (Look look : kind) {
+                if (!without.get(i).equals(with.get(i))) {
+                    Due.tell(name + " " + look.name + " answered " + with.get(i)
+                            + ", without that call " + without.get(i));
+                    return;
+                }
+                i++;
             }
         }
     }
 
+    /** Each kind of look has objects of its own: one that changes something must not hide it. */
     private List<Integer> seen(Run way) {
         List<Integer> answers = new ArrayList<>();
-        Net x = null;
-        for (Look look : looks) {
-            if (answers.size() % LOOKS_AT_ONCE == 0) {
-                x = new Net();
-                way.on(x);
+        for (List<Look> kind : looks) {
+            Net x = null;
+            for (int i = 0; i < kind.size(); i++) {
+                if (i % LOOKS_AT_ONCE == 0) {
+                    x = new Net();
+                    way.on(x);
+                }
+                answers.add(kind.get(i).call.on(x));
             }
-            answers.add(look.call.on(x));
         }
         return answers;
     }
 
     /** Shows what no look shows: serials, times and tokens kept, and how many may still join. */
     private void goOn(Net x) {
+        askAll(x);
+        Steps.ticks(x, 5);
+        askAll(x);
+        Steps.dropAll(x);
+        for (int p = 231; p <= 243; p++) {
+            x.join(p, p == 231 ? -1 : 231);
+        }
+        for (int i = 1; i < peers.size(); i++) {
+            x.leave(peers.get(i));
+            x.join(peers.get(i), peers.get(0));
+        }
+    }
+
+    private void askAll(Net x) {
         for (int p : peers) {
             x.refresh(p);
             x.begin(p, 2, KEY);
         }
         for (int i = 0; i < 16; i++) {
             x.deliver(i % 3);
-        }
-        Steps.ticks(x, 5);
-        for (int p = 231; p <= 243; p++) {
-            x.join(p, -1);
         }
     }
 
@@ -98,8 +120,7 @@ final class Scene {
         Net x = null;
         for (int p = 0; p <= 255; p++) {
             if (p % LOOKS_AT_ONCE == 0) {
-                x = new Net();
-                run.on(x);
+                x = made();
             }
             if (x.lookup(p) >= 0) {
                 up.add(p);
@@ -108,52 +129,58 @@ final class Scene {
         return up;
     }
 
-    private List<Look> allLooks() {
-        List<Look> all = new ArrayList<>();
-        all.add(new Look("clock()", Net::clock));
-        all.add(new Look("waiting()", Net::waiting));
-        for (int i = -1; i <= 256; i++) {
-            int p = i;
-            all.add(new Look("lookup(" + p + ")", x -> x.lookup(p)));
+    private List<List<Look>> allLooks() {
+        List<Look> lookups = new ArrayList<>();
+        List<Look> candidates = new ArrayList<>();
+        List<Look> found = new ArrayList<>();
+        List<Look> entries = new ArrayList<>();
+        List<Look> datagrams = new ArrayList<>();
+        for (int p = -1; p <= 256; p++) {
+            int of = p;
+            lookups.add(new Look("lookup(" + p + ")", x -> x.lookup(of)));
         }
         for (int p : peers) {
-            addLooksAtLookup(all, p);
-            addLooksAtTable(all, p);
+            for (int i = 0; i <= 12; i++) {
+                int j = i;
+                candidates.add(new Look("candidate(" + p + ", " + j + ")", x -> x.candidate(p, j)));
+                found.add(new Look("found(" + p + ", " + j + ")", x -> x.found(p, j)));
+                entries.add(new Look("entry(" + p + ", " + j + ")", x -> x.entry(p, j)));
+            }
         }
         for (int i = 0; i < 25 * 12; i++) {
             int k = i / 12;
             int what = i % 12;
-            all.add(new Look("datagram(" + k + ", " + what + ")", x -> x.datagram(k, what)));
+            datagrams.add(new Look("datagram(" + k + ", " + what + ")", x -> x.datagram(k, what)));
         }
+        List<List<Look>> all = looksAtTables();
+        all.add(List.of(new Look("clock()", Net::clock)));
+        all.add(List.of(new Look("waiting()", Net::waiting)));
+        all.addAll(List.of(lookups, candidates, found, entries, datagrams));
         return all;
     }
 
-    private static void addLooksAtLookup(List<Look> all, int p) {
-        for (int i = 0; i <= 12; i++) {
-            int j = i;
-            all.add(new Look("candidate(" + p + ", " + j + ")", x -> x.candidate(p, j)));
-            all.add(new Look("found(" + p + ", " + j + ")", x -> x.found(p, j)));
-        }
-        for (int i = 0; i <= 6; i++) {
-            int j = i;
-            all.add(new Look("entry(" + p + ", " + j + ")", x -> x.entry(p, j)));
-        }
-    }
-
-    private static void addLooksAtTable(List<Look> all, int p) {
-        all.add(new Look("buckets(" + p + ")", x -> x.buckets(p)));
-        for (int i = 0; i < 8; i++) {
-            int b = i;
-            all.add(new Look("bucket(" + p + ", " + b + ")", x -> x.bucket(p, b)));
-            for (int c = 0; c < 3; c++) {
-                int j = c;
-                all.add(new Look("contact(" + p + ", " + b + ", " + j + ")",
+    private List<List<Look>> looksAtTables() {
+        List<Look> counts = new ArrayList<>();
+        List<Look> buckets = new ArrayList<>();
+        List<Look> contacts = new ArrayList<>();
+        List<Look> closest = new ArrayList<>();
+        for (int p : peers) {
+            counts.add(new Look("buckets(" + p + ")", x -> x.buckets(p)));
+            for (int i = 0; i < 8 * 3; i++) {
+                int b = i / 3;
+                int j = i % 3;
+                contacts.add(new Look("contact(" + p + ", " + b + ", " + j + ")",
                         x -> x.contact(p, b, j)));
             }
+            for (int i = 0; i < 8; i++) {
+                int b = i;
+                buckets.add(new Look("bucket(" + p + ", " + b + ")", x -> x.bucket(p, b)));
+            }
+            for (int target : TARGETS) {
+                closest.add(new Look("closest(" + p + ", " + target + ", 2)",
+                        x -> x.closest(p, target, 2)));
+            }
         }
-        for (int target : TARGETS) {
-            all.add(new Look("closest(" + p + ", " + target + ", 2)",
-                    x -> x.closest(p, target, 2)));
-        }
+        return new ArrayList<>(List.of(counts, buckets, contacts, closest));
     }
 }

@@ -1,11 +1,11 @@
 /** The bounds that Terms name for a TICK, and promises 5 and 6. */
-public final class TicksBoundsTest {
+public final class TicksTest {
     private static final int ASKED = 256;
     private static final int ANSWERED = 512;
     private static final int FAILED = 768;
     private static final int AGO = 1024;
 
-    private TicksBoundsTest() {
+    private TicksTest() {
     }
 
     public static void main(String[] args) {
@@ -30,6 +30,7 @@ public final class TicksBoundsTest {
         missesAddUp();
         tickLeavesOutWhoIsNotUp();
         twoThatFailMakeWayForTwo();
+        refreshOfInnerBuckets();
         Due.end();
     }
 
@@ -58,7 +59,7 @@ public final class TicksBoundsTest {
     }
 
     private static void sixteenTicksAgoIsTheSecondBucket() {
-        Due.shows("Promise 5", "the first such bucket's range: one touched 15 ticks ago is none");
+        Due.shows("Promise 5", "the first such bucket's range", "one touched 15 ticks ago is none");
         Net x = twoBuckets();
         x.tick();
         touchLower(x);
@@ -95,7 +96,7 @@ public final class TicksBoundsTest {
     }
 
     private static void refreshOneAfterAnother() {
-        Due.shows("Promise 5", "p begins a FIND: its bucket is touched then");
+        Due.shows("Promise 5", "p begins a FIND", "its bucket is touched then");
         Net x = twoBuckets();
         Steps.ticks(x, 30);
         Due.is("the first", x.refresh(200), 30);
@@ -111,8 +112,8 @@ public final class TicksBoundsTest {
     }
 
     private static void targetGoesAroundAllNumbers() {
-        Due.shows("Promise 5", "plus the remainder of CLOCK divided by how many numbers that range"
-                + " has");
+        Due.shows("Promise 5", "plus the remainder of CLOCK divided by how many numbers that"
+                + " range has");
         int[][] due = {{16, 16}, {254, 254}, {255, 255}, {256, 0}, {257, 1}, {509, 253}};
         for (int[] row : due) {
             Net x = new Net();
@@ -123,8 +124,8 @@ public final class TicksBoundsTest {
     }
 
     private static void targetGoesAroundFourNumbers() {
-        Due.shows("Promise 5", "the remainder of CLOCK divided by how many numbers that range has:"
-                + " four");
+        Due.shows("Promise 5", "the remainder of CLOCK divided by how many numbers that range has",
+                "four");
         for (int ticks = 16; ticks <= 20; ticks++) {
             Net x = Steps.host(0, 1, 2, 3, 4);
             Due.is("buckets(0)", x.buckets(0), 7);
@@ -226,7 +227,7 @@ public final class TicksBoundsTest {
     }
 
     private static void askedLaterFailsLater() {
-        Due.shows("Promise 6", "was asked 4 or more ticks ago: each from when it was asked");
+        Due.shows("Promise 6", "was asked 4 or more ticks ago", "each from when it was asked");
         Net x = Steps.host(0, 1, 2, 3);
         Steps.silentTicks(x, 4);
         x.begin(0, 0, 0);
@@ -246,7 +247,7 @@ public final class TicksBoundsTest {
     }
 
     private static void answeredDoesNotFail() {
-        Due.shows("Promise 6", "each candidate that is ASKED: no other becomes FAILED");
+        Due.shows("Promise 6", "each candidate that is ASKED", "no other becomes FAILED");
         Net x = Steps.host(0, 1, 2, 3);
         Steps.silentTicks(x, 4);
         x.begin(0, 0, 0);
@@ -340,12 +341,14 @@ public final class TicksBoundsTest {
     private static void missesAddUp() {
         Due.shows("Promise 6", "it gets one miss more");
         Net x = Steps.host(0, 1);
+        Steps.see(x, 1, 2);
+        Steps.silentTicks(x, 4);
         for (int misses = 0; misses <= 4; misses++) {
             Steps.areContacts(misses + " misses", x, 0, 0, 1 + 256 * misses);
             x.begin(0, 0, 0);
             Steps.silentTicks(x, 4);
         }
-        Steps.areContacts("in its own table alone", x, 1, 0, 0 + 256);
+        Steps.areContacts("its own miss alone", x, 2, 0, 1 + 256);
     }
 
     private static void tickLeavesOutWhoIsNotUp() {
@@ -391,5 +394,37 @@ public final class TicksBoundsTest {
         Steps.areCandidates("one is left to ask", x, 0, 255 + FAILED, 254 + FAILED,
                 253 + FAILED, 128 + ANSWERED, 64 + FAILED, 32 + ASKED);
         Due.is("lookup(0)", x.lookup(0), 1);
+    }
+
+    private static void refreshOfInnerBuckets() {
+        Due.shows("Promise 5", "the first such bucket's range .. how many numbers that range has");
+        Net x = new Net();
+        x.join(16, -1);
+        int[] guests = {17, 18, 20, 24};
+        for (int guest : guests) {
+            Steps.see(x, 16, guest);
+        }
+        Due.is("stale: buckets(16)", x.buckets(16), 6);
+        Steps.silentTicks(x, 20);
+        Due.is("stale: refresh(16)", x.refresh(16), 20 % 16);
+        Due.is("stale: serial", x.datagram(0, 3), 5);
+        Due.is("stale: kind", x.datagram(0, 0), 0);
+        Due.is("stale: target", x.datagram(0, 4), 4);
+        Due.is("stale: bucket(16, 0)", x.bucket(16, 0), 0);
+        Due.is("running: refresh(16)", x.refresh(16), -1);
+        Steps.silentTicks(x, 8);
+        Due.is("stale: lookup(16)", x.lookup(16), 2);
+        Due.is("next: refresh(16)", x.refresh(16), 16 + 28 % 8);
+        Steps.silentTicks(x, 8);
+        Due.is("the first again: refresh(16)", x.refresh(16), 36 % 16);
+        Steps.silentTicks(x, 8);
+        Due.is("the second again: refresh(16)", x.refresh(16), 16 + 44 % 8);
+        Steps.silentTicks(x, 8);
+        int[] targets = {0, 16, 24};
+        for (int target : targets) {
+            x.begin(16, 0, target);
+            Steps.deliverAll(x);
+        }
+        Due.is("the fourth: refresh(16)", x.refresh(16), 32 + 52 % 32);
     }
 }
