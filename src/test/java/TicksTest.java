@@ -106,7 +106,7 @@ public final class TicksTest {
         Steps.silentTicks(x, 8);
         Due.is("the second", x.refresh(200), 128 + 38);
         Steps.silentTicks(x, 8);
-        Due.is("the first is fresh still, 16 ticks later", x.refresh(200), 46);
+        Due.is("the first again, 16 ticks later", x.refresh(200), 46);
         Steps.silentTicks(x, 7);
         Due.is("while it runs", x.refresh(200), -1);
     }
