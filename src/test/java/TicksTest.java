@@ -204,6 +204,11 @@ public final class TicksTest {
         Due.is("joined 15 ticks ago: refresh(9)", x.refresh(9), -1);
         x.tick();
         Due.is("joined 16 ticks ago: refresh(9)", x.refresh(9), 32);
+        Net y = twoBuckets();
+        Steps.ticks(y, 16);
+        y.leave(200);
+        y.join(200, -1);
+        Due.is("its former buckets are gone: refresh(200)", y.refresh(200), -1);
     }
 
     private static void fourTicksAgo() {
@@ -365,6 +370,13 @@ public final class TicksTest {
         x.join(0, -1);
         Due.is("up again without a lookup: tick()", x.tick(), 0);
         Due.is("lookup(0)", x.lookup(0), 0);
+        Net y = Steps.host(0, 1, 2, 3);
+        Steps.silentTicks(y, 4);
+        y.begin(0, 0, 0);
+        y.leave(0);
+        y.join(0, 1);
+        Steps.ticks(y, 3);
+        Due.is("of two asked before and one asked now: tick()", y.tick(), 1);
     }
 
     private static void twoThatFailMakeWayForTwo() {
